@@ -907,7 +907,7 @@ public final class CarbonMinistry {
             namesDay = false;
         }
 
-        boolean readTest(int open) {
+        private boolean readTest(int open) {
             if (!readBoth(open)) {
                 return false;
             }
@@ -955,7 +955,7 @@ public final class CarbonMinistry {
             return readSum(open) && code.add(sign);
         }
 
-        boolean readSum(int open) {
+        private boolean readSum(int open) {
             if (!readProduct(open)) {
                 return false;
             }
@@ -1582,19 +1582,17 @@ public final class CarbonMinistry {
         }
 
         int countTo(int officer) {
-            int many = 0;
-            for (int carbon = 0; carbon < engine.plan.carbons; carbon++) {
-                if (isIn(carbon) && engine.taker(carbon, now.turned) == officer) {
-                    many++;
-                }
-            }
-            return many;
+            return countFrom(officer, ~now.turned);
         }
 
         int countFrom(int officer) {
+            return countFrom(officer, now.turned);
+        }
+
+        private int countFrom(int officer, int turned) {
             int many = 0;
             for (int carbon = 0; carbon < engine.plan.carbons; carbon++) {
-                if (isIn(carbon) && engine.giver(carbon, now.turned) == officer) {
+                if (isIn(carbon) && engine.giver(carbon, turned) == officer) {
                     many++;
                 }
             }

@@ -44,6 +44,7 @@ public final class PromiseTest {
         promises31to33();
         promise34();
         laws();
+        asMuchAsCanBe();
         System.out.println(wrong == 0 ? "all promises are kept" : wrong + " answers are not as due");
         if (wrong != 0) {
             System.exit(1);
@@ -186,6 +187,46 @@ public final class PromiseTest {
         due("without", read(x, ""), 0);
         due("officers", x.has(0), 0);
         due("blanks", read(x, "\nofficer\na\n shape 0 press\n9\n;feeling b;"), 2);
+        due("ministry", read(x, "officer z shape 9 press 8;feeling y;passes 1;fades 2;slip 3;x"), NONE);
+        due("all stays", x.letter(0, 0, 0), 1);
+        due("all stays", x.officer(0, 1), 9);
+        due("all stays", x.letter(1, 0, 0), 2);
+        oneAfterAnother();
+        fullTape();
+    }
+
+    /** Nothing of an earlier ministry is left. */
+    private static void oneAfterAnother() {
+        String two = "officer a shape 1 press 1;officer b shape 1 press 1;feeling j;carbon a to b sheets 2;felt j of a is 9;";
+        CarbonMinistry x = of(two + "passes 70+day;fades feel;acts all;slip 100;");
+        due("passes", x.passes(0, 0), 70);
+        due("slips", x.chance(1), 1);
+        x.sources(0, -1);
+        for (int k = 0; k < 4; k++) {
+            for (int i = 0; i < k; i++) {
+                due("ministry", read(x, ""), 0);
+            }
+            due("ministry", read(x, two), 5);
+            due("passes", x.passes(0, 0), 7);
+            due("later", x.later(0, 0, 1), 0);
+            due("acted", x.acted(3), 0);
+            due("slips", x.chance(1), 0);
+            due("sources", x.sources(0, -1), 198);
+            due("ministry", read(x, "officer a shape 1 press 1;feeling j;"), 2);
+            due("sources", x.sources(0, -1), 99);
+        }
+    }
+
+    /** Texts as long as the tape, of as many parts as go in. */
+    private static void fullTape() {
+        CarbonMinistry x = new CarbonMinistry();
+        for (int k = 0; k < 5; k++) {
+            due("ministry", read(x, "passes 1" + times("+1", 795) + " ;"), 1);
+        }
+        due("ministry", read(x, "officer a shape 1 press 1;"), 1);
+        due("ask", ask(x, "total 1" + times("+1", 796) + " "), 797);
+        due("ask", ask(x, "total 1" + times("+1", 796) + "+"), CarbonMinistry.NOTHING);
+        due("place", x.fault(1), 1600);
     }
 
     /** The text with an @ at the place of its fault. */
@@ -568,6 +609,9 @@ public final class PromiseTest {
         due("strongest", y.strongest(0, -1), NONE);
         y.put(2, 0, 60);
         due("the first of like ones", y.strongest(0, 0), 0);
+        y.put(2, 1, 0);
+        y.put(1, 1, 1);
+        due("by 1", y.strongest(1, 0), 1);
         promise = 16;
         CarbonMinistry z = of(OFFICE);
         due("acted", z.acted(0), 0);
@@ -681,6 +725,15 @@ public final class PromiseTest {
         due("turning", y.turning(0, 0, 68, 1), 7);
         due("turning", y.turning(0, 0, 69, 1), NONE);
         due("as it comes in 20 days", y.turning(0, 0, 1, 20), NONE);
+        CarbonMinistry z = of(lettered(2) + "feeling j;carbon a to b sheets 1;felt j of b is 7;fades feel;"
+            + "passes strength*max(0,min(1,day-2));");
+        due("day by day", z.turning(0, 0, 7, 3), NONE);
+        due("day by day", z.turning(0, 0, 7, 4), 1);
+        due("day by day", z.turning(0, 0, 8, 4), NONE);
+        due("day by day", z.turning(0, 0, 14, 5), 1);
+        z.days(2);
+        due("from now on", z.turning(0, 0, 7, 1), NONE);
+        due("from now on", z.turning(0, 0, 7, 2), 1);
     }
 
     private static void promises18and19() {
@@ -722,6 +775,9 @@ public final class PromiseTest {
         due("cutting", z.cutting(0, 5), 2);
         z.pull(4, 0);
         due("cutting", z.cutting(0, 5), 1);
+        CarbonMinistry w = of(lettered(4) + "carbon a to b sheets 1;carbon b to c sheets 1;carbon c to d sheets 1;"
+            + "carbon b to d sheets 1;carbon a to c sheets 1;carbon a to c sheets 1;carbon b to d sheets 1;");
+        due("cutting", w.cutting(0, 3), 2);
     }
 
     private static String lettered(int officers) {
@@ -750,6 +806,8 @@ public final class PromiseTest {
         due("discover", discover(x, 0, 3, 0), NONE);
         due("discover", discover(x, 0, 0, 100), NONE);
         due("discover", discover(x, 0, 0, 0, 0, 255, 0), NONE);
+        due("discover", discover(x, 0, 0, 0, 31, 0, 0), NONE);
+        due("discover", discover(x, 0, 0, 0, 0, 0, 100), NONE);
         due("all stays", x.has(8), 1);
         due("discover", discover(x, new int[48]), 16);
         due("discover", discover(x, new int[51]), NONE);
@@ -757,7 +815,7 @@ public final class PromiseTest {
         due("discover", discover(x, 0, 0, 0, 0, 0, 0), 2);
         due("has", x.has(8), 2);
         due("the tape goes", x.end(1), false);
-        due("status", x.status(1), 9);
+        due("status", x.status(1), 11);
         due("discover", discover(new CarbonMinistry(), 0, 0, 0), NONE);
         x.days(1);
         x.put(0, 0, 1);
@@ -846,6 +904,7 @@ public final class PromiseTest {
         w.days(5);
         due("tells", w.tells(0, 2), 198);
         tellingOnTheSecondDay();
+        tellingOnTheLastDay();
     }
 
     /** a, b or c by 10: the day after each tells one from two, on the second day g tells all three. */
@@ -864,6 +923,42 @@ public final class PromiseTest {
         due("tells", x.tells(0, 0), 1);
         due("tells", x.tells(0, 1), 4);
         due("tells", x.tells(0, 2), 2);
+    }
+
+    /** Only what comes to c on DAY 998 tells a from b; 30 DAYS AHEAD alone are looked at, none beyond 999. */
+    private static void tellingOnTheLastDay() {
+        CarbonMinistry x = of(lettered(3) + "feeling j;carbon a to c sheets 1;carbon b to c sheets 1;fades feel;"
+            + "passes (strength-sheets)*max(0,min(1,day-997));");
+        int[][] due = {{968, 1, 0, 99}, {969, 30, 2, 2}, {970, 29, 2, 2}, {998, 1, 2, 2}};
+        for (int[] row : due) {
+            goTo(x, row[0]);
+            discover(x, 0, 2, 0);
+            due("sources", x.sources(0, -1), 198);
+            for (int k = 0; k < 3; k++) {
+                due("tells at " + row[0], x.tells(0, k), row[k + 1]);
+            }
+        }
+        goTo(x, 999);
+        due("tells", x.tells(0, 0), NONE);
+        CarbonMinistry y = of(lettered(3) + "feeling j;carbon a to c sheets 1;carbon b to c sheets 1;fades feel;"
+            + "passes (strength-sheets)*max(0,min(1,day-998));");
+        goTo(y, 980);
+        discover(y, 0, 2, 0);
+        due("DAY 999 does not pass", y.tells(0, 0), 1);
+        due("DAY 999 does not pass", y.tells(0, 2), 99);
+    }
+
+    /** Another DAY by an image, all else as it is. */
+    private static void goTo(CarbonMinistry x, int day) {
+        int[] b = new int[x.image()];
+        int c = 241;
+        for (int k = 0; k < b.length - 1; k++) {
+            b[k] = k == 0 ? day >> 8 : k == 1 ? day & 255 : x.octet(k);
+            c = (3 * c + b[k]) % 251;
+        }
+        b[b.length - 1] = c;
+        put(x, b);
+        due("on", x.on(), true);
     }
 
     private static void promise23() {
@@ -944,6 +1039,7 @@ public final class PromiseTest {
         due("0 at least", z.feels(1, 0), 0);
         CarbonMinistry w = of("officer a shape 0 press 0;feeling j;fades 9;passes 9;acts all;");
         due("felt by 0 neither fades nor is acted on", w.days(5), 0);
+        due("felt by 1 is acted on", of("officer a shape 0 press 0;feeling j;felt j of a is 9;fades 1;acts all;").days(5), 5);
         due("feels", w.feels(0, 0), 0);
     }
 
@@ -969,6 +1065,7 @@ public final class PromiseTest {
         due("pulled ones too", y.chance(1), 1);
         due("turned", y.carbon(0, 4), 1);
         due("in", y.carbon(0, 3), 0);
+        due("one carbon", of(lettered(2) + "carbon a to b sheets 1;slip 100;").chance(5), 5);
         due("without carbons", of("slip 100;").chance(3), 0);
         due("18 is not below 18", of(OFFICE + "slip 18;").chance(1), 0);
         due("18 is below 19", of(OFFICE + "slip 19;").chance(1), 1);
@@ -1064,6 +1161,13 @@ public final class PromiseTest {
         due("ask", ask(x, "total feels 0"), 60);
         due("ask", ask(x, "total feels 1"), 30);
         due("ask", ask(x, "total feels 2"), 0);
+        due("ask", ask(x, "total feels 4+feels 3"), 0);
+        due("ask", ask(x, "total steps 7"), -3);
+        due("ask", ask(x, "total steps 8"), -3);
+        due("ask", ask(x, "least 5-number"), 3);
+        due("ask", ask(x, "most 5-number"), 5);
+        due("ask", ask(x, "least 5+number"), 5);
+        due("ask", ask(x, "most 5+number"), 7);
         due("ask", ask(x, "total feels(0-1)"), 0);
         due("ask", ask(x, "total feels 9999"), 0);
         due("ask", ask(x, "first feels number=30"), NONE);
@@ -1151,6 +1255,7 @@ public final class PromiseTest {
             due("octet", x.octet(k), other[k]);
         }
         x.put(1, 1, 8);
+        sourcesByAnImage();
         refuses(x, 2, 2);
         refuses(x, 7, 2);
         refuses(x, 8, 100);
@@ -1167,6 +1272,16 @@ public final class PromiseTest {
         due("status", x.status(5), 10);
         due("all stays", x.feels(1, 1), 8);
         due("all stays", x.has(9), 1);
+    }
+
+    private static void sourcesByAnImage() {
+        CarbonMinistry x = of(OFFICE);
+        discover(x, 1, 2, 12);
+        due("sources", x.sources(0, -1), 11);
+        // The carbon from sec to lad is turned.
+        put(x, 0, 0, 1, 0, 1, 1, 1, 0, 60, 0, 0, 0, 0, 30, 178);
+        due("on", x.on(), true);
+        due("sources", x.sources(0, -1), 8);
     }
 
     /** An image with one octet made another, the last byte fitting, is none. */
@@ -1213,6 +1328,59 @@ public final class PromiseTest {
         return ask(of("officer a shape 2 press 3;"), "often " + test) == 1;
     }
 
+    /** 8 officers, 4 feelings, 12 carbons, 16 rows: nothing is too small for them. */
+    private static void asMuchAsCanBe() {
+        promise = 6;
+        StringBuilder b = new StringBuilder(lettered(8) + "feeling w;feeling x;feeling y;feeling z;acts all;fades feel;");
+        for (int k = 0; k < 12; k++) {
+            int to = k < 7 ? k + 1 : (k + 3) % 8;
+            b.append("carbon ").append((char) ('a' + k % 8)).append(" to ").append((char) ('a' + to)).append(" sheets 9;");
+        }
+        for (int k = 0; k < 32; k++) {
+            b.append("felt ").append((char) ('w' + k / 8)).append(" of ").append((char) ('a' + k % 8)).append(" is 99;");
+        }
+        CarbonMinistry x = of(b.toString());
+        due("statements", x.has(0) + x.has(1) + x.has(2), 24);
+        due("strengths", x.has(6), 32 * 99);
+        due("feels", x.feels(7, 3), 99);
+        due("acted", x.acted(60), 60 * 32);
+        due("days", x.days(2), 64);
+        due("kept", x.kept(39, 1), 7);
+        due("kept", x.kept(39, 2), 3);
+        due("kept", x.kept(0, 1), 6);
+        due("settles", x.settles(), 0);
+        due("turned", x.turn(11, 1), true);
+        due("turning", x.turning(7, 3, 99, 20), 0);
+        x.put(7, 3, 0);
+        due("turning", x.turning(7, 3, 99, 1) >= 0, true);
+        due("turning", x.turning(7, 3, 99, 0), NONE);
+        due("image", x.image(), 2 + 24 + 32 + 1);
+        int[] octets = new int[59];
+        for (int k = 0; k < 59; k++) {
+            octets[k] = x.octet(k);
+        }
+        x.pull(11, 0);
+        put(x, octets);
+        due("on", x.on(), true);
+        due("in", x.has(4), 12);
+        due("turned", x.has(5), 1);
+        due("sources", x.sources(3, -1), 792);
+        due("sources", x.sources(3, 791), 799);
+        due("tells", x.tells(3, 2) > 0, true);
+        due("discover", discover(x, new int[48]), 16);
+        due("sources", x.sources(0, -1), 7 * 99);
+        due("often", ask(x, "often steps 0<0"), reaching(x));
+        due("slip", x.chance(100), 0);
+    }
+
+    private static int reaching(CarbonMinistry x) {
+        int without = 0;
+        for (int k = 0; k < 8; k++) {
+            without += x.steps(k, 0) == NONE ? 1 : 0;
+        }
+        return without;
+    }
+
     private static void laws() {
         promise = 30;
         due("from the left on", total("10-3-2"), 5);
@@ -1239,6 +1407,10 @@ public final class PromiseTest {
         due("not its fact only", holds("not 1=2 and 1=1"), true);
         due("not its fact only", holds("not 1=2 and 1=2"), false);
         due("not not", holds("not not 1=1"), true);
+        due("all", holds("all"), true);
+        due("not all", holds("not all"), false);
+        due("not not all", holds("not not all"), true);
+        due("or of two", holds("not [all or all]"), false);
         due("not of brackets", holds("not [1=1 or 1=2]"), false);
         due("below", holds("2<3"), true);
         due("below", holds("3<3"), false);
