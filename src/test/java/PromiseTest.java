@@ -1,25 +1,5 @@
 /** Promise by promise: ordinary inputs, the edges that the document names, wrong inputs. Answers worked out by hand. */
-public final class PromiseTest {
-    private static final String OFFICE = "officer mini shape 3 press 5; officer sec shape 1 press 2; "
-        + "officer lad shape 7 press 0; feeling joy; feeling woe; carbon mini to sec sheets 2; "
-        + "carbon sec to lad sheets 3; carbon mini to lad sheets 5; felt joy of mini is 60; felt woe of lad is 30; "
-        + "passes strength/sheets+press; fades feel/3; acts feel>30 and feeling<1; slip 50;";
-    private static final int NONE = CarbonMinistry.NONE;
-
-    private static int wrong = 0;
-    private static int promise = 0;
-
-    private static void due(String call, long got, long want) {
-        if (got != want) {
-            wrong++;
-            System.out.println("promise " + promise + ": " + call + " answered " + got + ", due is " + want);
-        }
-    }
-
-    private static void due(String call, boolean got, boolean want) {
-        due(call, got ? 1 : 0, want ? 1 : 0);
-    }
-
+public final class PromiseTest extends Desk {
     public static void main(String[] args) {
         promise1();
         promise2();
@@ -45,52 +25,11 @@ public final class PromiseTest {
         promise34();
         laws();
         asMuchAsCanBe();
-        System.out.println(wrong == 0 ? "all promises are kept" : wrong + " answers are not as due");
-        if (wrong != 0) {
-            System.exit(1);
-        }
-    }
-
-    private static void put(CarbonMinistry x, int... octets) {
-        x.end(0);
-        for (int k = 0; k < octets.length; k += 20) {
-            int[] n = new int[5];
-            for (int j = 0; j < 20; j++) {
-                n[j / 4] = n[j / 4] << 8 | (k + j < octets.length ? octets[k + j] & 255 : ' ');
-            }
-            x.feed(n[0], n[1], n[2], n[3], n[4]);
-        }
-        x.end(octets.length);
-    }
-
-    private static void put(CarbonMinistry x, String text) {
-        put(x, text.chars().toArray());
-    }
-
-    private static int read(CarbonMinistry x, String text) {
-        put(x, text);
-        return x.ministry();
-    }
-
-    private static CarbonMinistry of(String text) {
-        CarbonMinistry x = new CarbonMinistry();
-        if (read(x, text) < 0) {
-            due("ministry of " + text + " at " + x.fault(1), x.fault(0), 0);
-        }
-        return x;
-    }
-
-    private static long ask(CarbonMinistry x, String text) {
-        put(x, text);
-        return x.ask();
-    }
-
-    private static String times(String piece, int n) {
-        return piece.repeat(n);
+        finish();
     }
 
     private static void promise1() {
-        promise = 1;
+        promise(1);
         CarbonMinistry x = new CarbonMinistry();
         for (int k = 0; k < 10; k++) {
             due("has", x.has(k), 0);
@@ -109,7 +48,7 @@ public final class PromiseTest {
     }
 
     private static void promise2() {
-        promise = 2;
+        promise(2);
         CarbonMinistry x = new CarbonMinistry();
         for (int k = 1; k <= 80; k++) {
             due("feed", x.feed(k, -1, 0, 0, 0), 20 * k);
@@ -128,12 +67,12 @@ public final class PromiseTest {
         due("ask", y.ask(), 1239);
         // A byte above 127 stays one.
         due("feed", y.feed(0x746f7461, 0x6cff3132, 0, 0, 0), 20);
-        due("ask", y.ask(), CarbonMinistry.NOTHING);
+        due("ask", y.ask(), NOTHING);
         due("fault", y.fault(1), 5);
     }
 
     private static void promise3() {
-        promise = 3;
+        promise(3);
         CarbonMinistry x = new CarbonMinistry();
         due("end", x.end(0), true);
         due("end", x.end(1), false);
@@ -151,7 +90,7 @@ public final class PromiseTest {
     }
 
     private static void promise4() {
-        promise = 4;
+        promise(4);
         CarbonMinistry x = new CarbonMinistry();
         due("ministry", x.ministry(), 0);
         due("ministry", read(x, " \n \n"), 0);
@@ -225,22 +164,12 @@ public final class PromiseTest {
         }
         due("ministry", read(x, "officer a shape 1 press 1;"), 1);
         due("ask", ask(x, "total 1" + times("+1", 796) + " "), 797);
-        due("ask", ask(x, "total 1" + times("+1", 796) + "+"), CarbonMinistry.NOTHING);
+        due("ask", ask(x, "total 1" + times("+1", 796) + "+"), NOTHING);
         due("place", x.fault(1), 1600);
     }
 
-    /** The text with an @ at the place of its fault. */
-    private static void faulty(int kind, String marked) {
-        CarbonMinistry x = new CarbonMinistry();
-        int at = marked.indexOf('@');
-        due("ministry of " + marked, read(x, marked.replace("@", "")), NONE);
-        due("fault of " + marked, x.fault(0), kind);
-        due("place of " + marked, x.fault(1), at);
-        due("status of " + marked, x.status(1), 1);
-    }
-
     private static void promise5() {
-        promise = 5;
+        promise(5);
         CarbonMinistry x = new CarbonMinistry();
         due("fault", x.fault(2), NONE);
         due("fault", x.fault(-1), NONE);
@@ -431,7 +360,7 @@ public final class PromiseTest {
     }
 
     private static void promise6() {
-        promise = 6;
+        promise(6);
         CarbonMinistry x = of(OFFICE);
         int[] first = {3, 2, 3, 0, 3, 0, 90, 0, 0, 0};
         for (int k = 0; k < 10; k++) {
@@ -452,7 +381,7 @@ public final class PromiseTest {
     }
 
     private static void promises7to9() {
-        promise = 7;
+        promise(7);
         CarbonMinistry x = of("officer abcxyz shape 3 press 5;officer b shape 0 press 9;feeling z;carbon abcxyz to b sheets 4;");
         int[] letters = {1, 2, 3, 24, 25, 26};
         for (int k = 0; k < 6; k++) {
@@ -467,7 +396,7 @@ public final class PromiseTest {
         due("letter", x.letter(1, 1, 0), NONE);
         due("letter", x.letter(2, 0, 0), NONE);
         due("letter", x.letter(-1, 0, 0), NONE);
-        promise = 8;
+        promise(8);
         CarbonMinistry y = of(OFFICE);
         int[][] traits = {{3, 5, 0, 2}, {1, 2, 1, 1}, {7, 0, 2, 0}};
         for (int o = 0; o < 3; o++) {
@@ -487,7 +416,7 @@ public final class PromiseTest {
         due("officer", y.officer(0, -1), NONE);
         due("officer", y.officer(3, 0), NONE);
         due("officer", y.officer(-1, 0), NONE);
-        promise = 9;
+        promise(9);
         int[][] carbons = {{0, 1, 2, 1, 1}, {1, 2, 3, 1, 0}, {0, 2, 5, 0, 0}};
         for (int c = 0; c < 3; c++) {
             for (int k = 0; k < 5; k++) {
@@ -501,7 +430,7 @@ public final class PromiseTest {
     }
 
     private static void promises10to12() {
-        promise = 10;
+        promise(10);
         CarbonMinistry x = of(OFFICE);
         due("feels", x.feels(0, 0), 60);
         due("feels", x.feels(0, 1), 0);
@@ -510,7 +439,7 @@ public final class PromiseTest {
         due("feels", x.feels(-1, 0), NONE);
         due("feels", x.feels(0, 2), NONE);
         due("feels", x.feels(0, -1), NONE);
-        promise = 11;
+        promise(11);
         due("passes", x.passes(0, 0), 60 / 2 + 2);
         due("passes", x.passes(1, 0), 0);
         due("passes", x.passes(2, 0), 60 / 5);
@@ -537,7 +466,7 @@ public final class PromiseTest {
         y.turn(0, 1);
         y.put(1, 0, 1);
         due("turned", y.passes(0, 0), 21);
-        promise = 12;
+        promise(12);
         CarbonMinistry z = of(two + "felt j of b is 60;fades feel-1;passes 2;acts feel>6;");
         due("days", z.days(2), 3);
         int[][] kept = {{0, 0, 0, 7}, {0, 1, 0, 61}, {1, 1, 0, 62}};
@@ -571,7 +500,7 @@ public final class PromiseTest {
     }
 
     private static void promises13to16() {
-        promise = 13;
+        promise(13);
         CarbonMinistry x = of(OFFICE);
         int[][] joy = {{60, 0, 0}, {20, 32, 12}, {6, 22, 18}, {2, 12, 14}, {0, 7, 8}, {0, 2, 4}, {0, 0, 1}, {0, 0, 0}};
         for (int n = 0; n < joy.length; n++) {
@@ -586,7 +515,7 @@ public final class PromiseTest {
         due("later", x.later(3, 0, 0), NONE);
         due("later", x.later(0, 2, 0), NONE);
         due("nothing passes", x.has(3), 0);
-        promise = 14;
+        promise(14);
         due("settles", x.settles(), 7);
         x.days(7);
         due("settles", x.settles(), 0);
@@ -596,7 +525,7 @@ public final class PromiseTest {
         due("at once", of(one + "60;fades feel;").settles(), 0);
         due("by the day, 99 at most", of(one + "50;fades 50+day;").settles(), 0);
         due("by the day, 99 at most", of(one + "50;fades 51+day;").settles(), 49);
-        promise = 15;
+        promise(15);
         CarbonMinistry y = of(OFFICE);
         due("strongest", y.strongest(0, 0), 0);
         due("strongest", y.strongest(0, 1), 1);
@@ -612,7 +541,7 @@ public final class PromiseTest {
         y.put(2, 1, 0);
         y.put(1, 1, 1);
         due("by 1", y.strongest(1, 0), 1);
-        promise = 16;
+        promise(16);
         CarbonMinistry z = of(OFFICE);
         due("acted", z.acted(0), 0);
         due("acted", z.acted(1), 1);
@@ -634,35 +563,35 @@ public final class PromiseTest {
         }
         x.days(90);
         due("day", x.has(3), 990);
-        promise = 13;
+        promise(13);
         due("later", x.later(0, 0, 9), 0);
         due("later", x.later(0, 0, 10), NONE);
-        promise = 15;
+        promise(15);
         due("strongest", x.strongest(0, 10), NONE);
-        promise = 16;
+        promise(16);
         due("acted", x.acted(9), 0);
         due("acted", x.acted(10), NONE);
-        promise = 17;
+        promise(17);
         x.put(0, 0, 60);
         due("turning", x.turning(1, 0, 1, 9) >= 0, true);
         due("turning", x.turning(1, 0, 32, 1), 0);
         due("turning", x.turning(1, 0, 32, 10), NONE);
-        promise = 26;
+        promise(26);
         due("days", x.days(10), NONE);
-        promise = 27;
+        promise(27);
         due("chance", x.chance(10), NONE);
         due("chance", x.chance(1) >= 0, true);
-        promise = 26;
+        promise(26);
         due("days", x.days(8) >= 0, true);
         due("day", x.has(3), 999);
         due("days", x.days(1), NONE);
-        promise = 14;
+        promise(14);
         due("settles", x.settles(), NONE);
-        promise = 13;
+        promise(13);
         due("later", x.later(0, 1, 0), 0);
-        promise = 22;
+        promise(22);
         due("tells", x.tells(0, 0), NONE);
-        promise = 21;
+        promise(21);
         due("sources", x.sources(0, -1), 297);
         put(x, 1, 0, 0);
         due("discover", x.discover(), 1);
@@ -670,16 +599,16 @@ public final class PromiseTest {
         put(x, 0, 0, 0);
         due("discover", x.discover(), 1);
         due("sources now", x.sources(0, -1), 198);
-        promise = 28;
+        promise(28);
         due("undo", x.undo(), true);
         due("day", x.has(3), 991);
-        promise = 14;
+        promise(14);
         x.days(7);
         x.put(1, 1, 9);
         due("settles at 998", x.settles(), NONE);
         x.put(1, 1, 0);
         due("settles at 998", x.settles(), 0);
-        promise = 11;
+        promise(11);
         x.days(1);
         x.turn(0, 0);
         x.put(0, 0, 60);
@@ -687,7 +616,7 @@ public final class PromiseTest {
     }
 
     private static void promise17() {
-        promise = 17;
+        promise(17);
         CarbonMinistry x = of(OFFICE);
         due("turning", x.turning(0, 1, 5, 1), 4);
         due("turning", x.turning(0, 1, 11, 1), 4);
@@ -737,7 +666,7 @@ public final class PromiseTest {
     }
 
     private static void promises18and19() {
-        promise = 18;
+        promise(18);
         CarbonMinistry x = of(OFFICE + "officer far shape 0 press 0;carbon lad to far sheets 1;");
         due("steps", x.steps(0, 3), 2);
         due("steps", x.steps(1, 3), 2);
@@ -752,7 +681,7 @@ public final class PromiseTest {
         due("steps", x.steps(0, 4), NONE);
         due("steps", x.steps(-1, 0), NONE);
         due("steps", x.steps(0, -1), NONE);
-        promise = 19;
+        promise(19);
         CarbonMinistry y = of(OFFICE + "officer far shape 0 press 0;" + times("carbon lad to far sheets 1;", 3));
         due("cutting", y.cutting(0, 2), 2);
         due("cutting", y.cutting(0, 1), 1);
@@ -780,22 +709,8 @@ public final class PromiseTest {
         due("cutting", w.cutting(0, 3), 2);
     }
 
-    private static String lettered(int officers) {
-        StringBuilder b = new StringBuilder();
-        for (int k = 0; k < officers; k++) {
-            b.append("officer ").append((char) ('a' + k)).append(" shape ").append(k).append(" press ").append(9 - k)
-                .append(';');
-        }
-        return b.toString();
-    }
-
-    private static int discover(CarbonMinistry x, int... octets) {
-        put(x, octets);
-        return x.discover();
-    }
-
     private static void promise20() {
-        promise = 20;
+        promise(20);
         CarbonMinistry x = of(OFFICE);
         due("discover", discover(x), NONE);
         due("discover", discover(x, 1), NONE);
@@ -824,7 +739,7 @@ public final class PromiseTest {
     }
 
     private static void promise21() {
-        promise = 21;
+        promise(21);
         CarbonMinistry x = of(OFFICE);
         due("sources", x.sources(0, -1), 297);
         due("sources", x.sources(0, 0), 1);
@@ -867,7 +782,7 @@ public final class PromiseTest {
     }
 
     private static void promise22() {
-        promise = 22;
+        promise(22);
         CarbonMinistry x = of(OFFICE);
         discover(x, 1, 2, 12, 1, 1, 32);
         due("tells", x.tells(0, 0), 1);
@@ -948,21 +863,8 @@ public final class PromiseTest {
         due("DAY 999 does not pass", y.tells(0, 2), 99);
     }
 
-    /** Another DAY by an image, all else as it is. */
-    private static void goTo(CarbonMinistry x, int day) {
-        int[] b = new int[x.image()];
-        int c = 241;
-        for (int k = 0; k < b.length - 1; k++) {
-            b[k] = k == 0 ? day >> 8 : k == 1 ? day & 255 : x.octet(k);
-            c = (3 * c + b[k]) % 251;
-        }
-        b[b.length - 1] = c;
-        put(x, b);
-        due("on", x.on(), true);
-    }
-
     private static void promise23() {
-        promise = 23;
+        promise(23);
         CarbonMinistry x = of(OFFICE);
         due("put", x.put(1, 0, 5), true);
         due("feels", x.feels(1, 0), 5);
@@ -982,7 +884,7 @@ public final class PromiseTest {
     }
 
     private static void promises24and25() {
-        promise = 24;
+        promise(24);
         CarbonMinistry x = of(OFFICE);
         due("turn", x.turn(0, 0), false);
         due("turn", x.turn(0, 1), true);
@@ -994,7 +896,7 @@ public final class PromiseTest {
         due("turn", x.turn(-1, 1), false);
         due("status", x.status(2), 6);
         due("has", x.has(9), 2);
-        promise = 25;
+        promise(25);
         due("pull", x.pull(2, 1), false);
         due("pull", x.pull(2, 0), true);
         due("in", x.carbon(2, 3), 0);
@@ -1011,7 +913,7 @@ public final class PromiseTest {
     }
 
     private static void promise26() {
-        promise = 26;
+        promise(26);
         CarbonMinistry x = of(OFFICE);
         due("days", x.days(0), NONE);
         due("days", x.days(-1), NONE);
@@ -1044,7 +946,7 @@ public final class PromiseTest {
     }
 
     private static void promise27() {
-        promise = 27;
+        promise(27);
         CarbonMinistry x = of(OFFICE);
         due("chance", x.chance(0), NONE);
         due("chance", x.chance(-5), NONE);
@@ -1079,7 +981,7 @@ public final class PromiseTest {
     }
 
     private static void promises28and29() {
-        promise = 28;
+        promise(28);
         CarbonMinistry x = of(OFFICE);
         due("undo", x.undo(), false);
         due("status", x.status(4), 1);
@@ -1112,7 +1014,7 @@ public final class PromiseTest {
         x.days(1);
         due("undo", x.undo(), true);
         due("kept goes", x.has(7), 0);
-        promise = 29;
+        promise(29);
         CarbonMinistry y = of(OFFICE);
         due("chance", y.chance(3), 3);
         due("undo", y.undo(), true);
@@ -1133,17 +1035,8 @@ public final class PromiseTest {
         due("seed is no act", y.has(9), 6);
     }
 
-    /** The question with an @ at the place of its fault. */
-    private static void puzzled(int kind, String marked) {
-        CarbonMinistry x = of(OFFICE);
-        due("ask " + marked, ask(x, marked.replace("@", "")), CarbonMinistry.NOTHING);
-        due("fault of " + marked, x.fault(0), kind);
-        due("place of " + marked, x.fault(1), marked.indexOf('@'));
-        due("status", x.status(1), 0);
-    }
-
     private static void promise30() {
-        promise = 30;
+        promise(30);
         CarbonMinistry x = of(OFFICE);
         due("ask", ask(x, "first press<5"), 1);
         due("ask", ask(x, "last press>1"), 1);
@@ -1220,11 +1113,11 @@ public final class PromiseTest {
     }
 
     private static void promises31to33() {
-        promise = 31;
+        promise(31);
         CarbonMinistry x = of(OFFICE);
         due("octet", x.octet(0), NONE);
         due("image", x.image(), 2 + 6 + 6 + 1);
-        promise = 32;
+        promise(32);
         int[] octets = {0, 0, 1, 0, 1, 0, 1, 0, 60, 0, 0, 0, 0, 30, 143};
         for (int k = 0; k < octets.length; k++) {
             due("octet", x.octet(k), octets[k]);
@@ -1233,7 +1126,7 @@ public final class PromiseTest {
         due("octet", x.octet(octets.length), NONE);
         x.put(0, 0, 1);
         due("of the latest image", x.octet(8), 60);
-        promise = 33;
+        promise(33);
         int[] other = {3, 231, 1, 1, 0, 0, 0, 1, 99, 0, 0, 7, 0, 30, 91};
         x.days(2);
         put(x, 0, 0, 0);
@@ -1298,7 +1191,7 @@ public final class PromiseTest {
     }
 
     private static void promise34() {
-        promise = 34;
+        promise(34);
         CarbonMinistry x = of(OFFICE);
         x.end(-1);
         x.ministry();
@@ -1330,7 +1223,7 @@ public final class PromiseTest {
 
     /** 8 officers, 4 feelings, 12 carbons, 16 rows: nothing is too small for them. */
     private static void asMuchAsCanBe() {
-        promise = 6;
+        promise(6);
         StringBuilder b = new StringBuilder(lettered(8) + "feeling w;feeling x;feeling y;feeling z;acts all;fades feel;");
         for (int k = 0; k < 12; k++) {
             int to = k < 7 ? k + 1 : (k + 3) % 8;
@@ -1382,7 +1275,7 @@ public final class PromiseTest {
     }
 
     private static void laws() {
-        promise = 30;
+        promise(30);
         due("from the left on", total("10-3-2"), 5);
         due("from the left on", total("100/7/2"), 7);
         due("from the left on", total("7/2*2"), 6);
@@ -1418,7 +1311,7 @@ public final class PromiseTest {
         due("above", holds("3>3"), false);
         due("like", holds("shape+1=press"), true);
         due("like", holds("shape=press"), false);
-        promise = 26;
+        promise(26);
         CarbonMinistry x = of(OFFICE.replace("slip 50;", "").replace("acts feel>30 and feeling<1;", ""));
         due("acts without: above 50", x.days(1), 0);
         CarbonMinistry y = of("officer a shape 0 press 0;feeling j;felt j of a is 51;fades feel;");
