@@ -223,6 +223,34 @@ final class EdgeCalls extends Desk {
             fresh.image();
             alike(NONE, "ministry of '" + text + "' behind another", with, fresh);
         }
+        oneBehindAnother();
+    }
+
+    /** Whatever was told ahead of it, with a FAULT or without, a MINISTRY is as on a new object. */
+    private static void oneBehindAnother() {
+        String[] texts = {OFFICE, AB + A_TO_B + "felt j of a is 60;", "passes 9;fades 8;acts all;slip 100;", "",
+            lettered(3) + "feeling j;feeling k;carbon c to a sheets 4;carbon b to c sheets 1;felt k of c is 70;felt j of b is 9;"
+            + "fades feel-day;acts feeling=1;", AB + "felt j of b is 60;acts press=1;passes 3;fades day+9;slip 30;" + A_TO_B,
+            "slip 3;", "feeling only;"};
+        String wild = lettered(8) + "feeling w;feeling x;felt w of a is 99;felt x of h is 99;" + times("carbon h to a sheets 9;", 12)
+            + "passes 99;fades 99;acts all;slip 100;";
+        for (int k = 0; k < texts.length * texts.length; k++) {
+            String text = texts[k % texts.length];
+            CarbonMinistry with = new CarbonMinistry();
+            read(with, texts[k / texts.length]);
+            for (int more = 0; more < k % 4; more++) {
+                read(with, more % 2 == 0 ? wild + "x" : wild);
+            }
+            int refused = with.status(1);
+            due("ministry", read(with, text) >= 0, true);
+            with.image();
+            CarbonMinistry fresh = of(text);
+            for (int more = 0; more < refused; more++) {
+                fresh.discover();
+            }
+            fresh.image();
+            alike(NONE, "ministry of '" + text + "' behind " + texts[k / texts.length], with, fresh);
+        }
     }
 
     private static void fault() {
@@ -441,6 +469,8 @@ final class EdgeCalls extends Desk {
         goTo(z, 998);
         due("in the DAY that passes next, 998", z.passes(0, 0), 10);
 
+        eachCarbonByItself();
+
         sentence("Promise 11", "; 0 when it is not IN, or it is felt by 0");
         CarbonMinistry w = of(AB + A_TO_B + "felt j of a is 1;passes 7;");
         due("IN, felt by 1", w.passes(0, 0), 7);
@@ -453,6 +483,7 @@ final class EdgeCalls extends Desk {
         w.put(0, 0, 0);
         w.put(1, 0, 99);
         due("felt by 0", w.passes(0, 0), 0);
+        due("and nothing comes", w.later(1, 0, 1), 0);
 
         sentence("Promise 11", "; NONE when there are none such.");
         for (int bad : BAD_CARBONS) {
@@ -461,6 +492,38 @@ final class EdgeCalls extends Desk {
         for (int bad : BAD_FEELINGS) {
             none("passes(0, " + bad + ")", y -> y.passes(0, bad));
             none("passes of one not IN, " + bad, y -> y.passes(2, bad));
+        }
+    }
+
+    /** Twelve unlike CARBONS, TURNED or not, IN or not: each passes by its own giver, taker and sheets. */
+    private static void eachCarbonByItself() {
+        StringBuilder text = new StringBuilder(lettered(8) + "feeling j;feeling k;passes strength+10*shape-sheets;");
+        for (int o = 0; o < 8; o++) {
+            text.append("felt k of ").append((char) ('a' + o)).append(" is ").append(o + 9).append(';');
+        }
+        for (int c = 0; c < 12; c++) {
+            text.append("carbon ").append((char) ('a' + c % 8)).append(" to ").append((char) ('a' + (3 * c + 1) % 8))
+                .append(" sheets ").append(1 + c % 9).append(';');
+        }
+        String told = text.toString().replace("carbon d to c", "carbon d to e");
+        for (int turned : new int[] {0, 1, 0x800, 0x555, 0xaaa, 0xfff}) {
+            for (int in : new int[] {0xfff, 0x7fe, 0x666}) {
+                CarbonMinistry x = of(told);
+                int[] sums = new int[8];
+                for (int c = 0; c < 12; c++) {
+                    x.turn(c, turned >> c & 1);
+                    x.pull(c, in >> c & 1);
+                    int from = x.carbon(c, turned >> c & 1);
+                    int to = x.carbon(c, 1 - (turned >> c & 1));
+                    int want = (in >> c & 1) == 0 ? 0 : Math.max(0, Math.min(99, from + 9 + 10 * to - 1 - c % 9));
+                    sums[to] += want;
+                    due("passes(" + c + ", 1), TURNED " + turned + ", IN " + in, x.passes(c, 1), want);
+                    due("passes(" + c + ", 0)", x.passes(c, 0), 0);
+                }
+                for (int o = 0; o < 8; o++) {
+                    due("later(" + o + ", 1, 1), TURNED " + turned + ", IN " + in, x.later(o, 1, 1), Math.min(99, sums[o]));
+                }
+            }
         }
     }
 
@@ -598,6 +661,9 @@ final class EdgeCalls extends Desk {
         for (int bad : new int[] {-1, 61, HIGH, LOW}) {
             none("strongest(1, " + bad + ")", z -> z.strongest(1, bad));
         }
+        for (int bad : new int[] {-1, 61, HIGH, LOW}) {
+            due("behind " + bad, x.strongest(0, bad), NONE);
+        }
         goTo(x, 940);
         due("to DAY 999", x.strongest(0, 59), 1);
         due("to DAY 1000", x.strongest(0, 60), NONE);
@@ -661,6 +727,33 @@ final class EdgeCalls extends Desk {
             due("to DAY 999", x.turning(1, 0, 99, row[1]), 0);
             due("to DAY 1000", x.turning(1, 0, 99, row[1] + 1), NONE);
         }
+        goTo(x, 0);
+        due("strength 99 behind 20 days", x.turning(1, 0, 99, 20), 0);
+        for (int bad : new int[] {-1, 21, 22, 60, HIGH, LOW}) {
+            due("strength 99 behind " + bad, x.turning(1, 0, 99, bad), NONE);
+        }
+        for (int bad : new int[] {0, -1, 100, LOW}) {
+            due("strength " + bad + " now", x.turning(1, 0, bad, 0), NONE);
+        }
+        due("OFFICER 2 of 2", x.turning(2, 0, 1, 0), NONE);
+        due("FEELING 1 of 1", x.turning(1, 1, 1, 0), NONE);
+        CarbonMinistry y = of(AB + "felt j of a is 1;");
+        due("by 1 alone", y.turning(0, 0, 1, 0), 0);
+        due("by 2", y.turning(0, 0, 2, 0), NONE);
+        due("felt by nobody", of(AB + A_TO_B).turning(0, 0, 1, 1), NONE);
+        // Each OFFICER by his own CARBON.
+        StringBuilder star = new StringBuilder(lettered(8) + "feeling j;felt j of h is 50;");
+        for (int o = 0; o < 7; o++) {
+            star.append("carbon ").append((char) ('a' + o)).append(" to h sheets 1;");
+        }
+        CarbonMinistry z = of(star.toString());
+        for (int o = 0; o < 7; o++) {
+            due("OFFICER " + o + " by his CARBON", z.turning(o, 0, 49, 1), 1 << o);
+            due("OFFICER " + o + " by one more", z.turning(o, 0, 50, 1), NONE);
+            due("OFFICER " + o + " now", z.turning(o, 0, 1, 0), NONE);
+        }
+        due("h now", z.turning(7, 0, 50, 0), 0);
+        due("h a day later", z.turning(7, 0, 1, 1), NONE);
     }
 
     private static void stepsAndCutting() {
@@ -746,6 +839,10 @@ final class EdgeCalls extends Desk {
         refusedTape(1, "discover of strength 100", CarbonMinistry::discover, NONE, 0, 0, 0, 0, 0, 100);
         refusedTape(1, "discover of strength 100, ahead", CarbonMinistry::discover, NONE, 0, 0, 100, 0, 0, 0);
         refusedTape(1, "discover of 255 DAYS", CarbonMinistry::discover, NONE, 255, 0, 0);
+        refusedTape(1, "discover of OFFICER 4 of 3", CarbonMinistry::discover, NONE, 0, 4, 0);
+        refusedTape(1, "discover of OFFICER 8", CarbonMinistry::discover, NONE, 0, 8, 0);
+        refusedTape(1, "discover of OFFICER 255", CarbonMinistry::discover, NONE, 0, 255, 0);
+        refusedTape(1, "discover of strength 255", CarbonMinistry::discover, NONE, 0, 0, 255);
         due("without officers", discover(of("feeling j;"), 0, 0, 0), NONE);
         CarbonMinistry y = of(lettered(8) + "feeling j;");
         due("of OFFICER 7", discover(y, 0, 7, 0), 1);
@@ -776,6 +873,7 @@ final class EdgeCalls extends Desk {
             discover(x, 0, 4, 42, row[1], 4, 42, 0, 5, 0);
             due("sources of more rows", x.sources(0, NONE), row[2]);
         }
+        soNow();
         // What is FOUND stays, by what is so now.
         goTo(x, 0);
         discover(x, 1, 4, 42);
@@ -801,6 +899,51 @@ final class EdgeCalls extends Desk {
         }
     }
 
+    /** SOURCES and what is TELLING are by what is so now, behind each call that makes it another. */
+    private static void soNow() {
+        CarbonMinistry x = of(AB + A_TO_B + "felt j of a is 9;fades feel;passes max(0,strength-1-day);slip 100;");
+        discover(x, 1, 1, 40, 0, 1, 0);
+        dueSource(x, "at first", 41);
+        x.turn(0, 1);
+        dueSource(x, "TURNED", NONE);
+        x.undo();
+        dueSource(x, "undone", 41);
+        x.pull(0, 0);
+        dueSource(x, "pulled", NONE);
+        x.pull(0, 1);
+        dueSource(x, "put IN", 41);
+        x.days(2);
+        dueSource(x, "behind two DAYS", 43);
+        x.undo();
+        dueSource(x, "undone", 41);
+        x.chance(1);
+        dueSource(x, "TURNED by the seed", NONE);
+        x.chance(1);
+        dueSource(x, "turned back by the seed", 43);
+        x.undo();
+        x.undo();
+        dueSource(x, "undone", 41);
+        x.put(1, 0, 50);
+        dueSource(x, "whatever is felt now", 41);
+        goTo(x, 7);
+        dueSource(x, "by an image, on DAY 7", 48);
+        on(x, sealed(0, 7, 0, 0, 9, 0));
+        dueSource(x, "by an image, not IN", NONE);
+        on(x, sealed(0, 8, 1, 0, 9, 0));
+        dueSource(x, "by an image, on DAY 8", 49);
+        discover(x, 1, 1, 50, 0, 1, 0);
+        dueSource(x, "by other rows", 59);
+        read(x, AB + A_TO_B);
+        due("all behind a MINISTRY", x.sources(0, NONE), 198);
+        due("one of two officers tells nothing", x.tells(0, 2) < 198, true);
+    }
+
+    private static void dueSource(CarbonMinistry x, String when, int source) {
+        due("how many, " + when, x.sources(0, NONE), source == NONE ? 0 : 1);
+        due("the source, " + when, x.sources(0, 0), source);
+        due("tells, " + when, x.tells(0, 2), source == NONE ? NONE : 1);
+    }
+
     private static void tells() {
         sentence("Promise 22", "TELLING for a FEELING: the number of DAYS AHEAD (what 0), the OFFICER (1), "
             + "how many SOURCES are left at the most (2).");
@@ -816,6 +959,32 @@ final class EdgeCalls extends Desk {
         due("one alone: DAYS", one.tells(0, 0), 1);
         due("one alone: OFFICER", one.tells(0, 1), 0);
         due("one alone: left", one.tells(0, 2), 1);
+
+        // From now on, whenever the rows are of: behind a DAY a by 1 and b by any of 1 .. 30 are both by 0 in a.
+        CarbonMinistry less = of(AB + "fades feel-1;");
+        discover(less, 30, 1, 0);
+        due("sources of less and less", less.sources(0, NONE), 99 + 30);
+        due("DAYS", less.tells(0, 0), 1);
+        due("OFFICER", less.tells(0, 1), 0);
+        due("left", less.tells(0, 2), 31);
+        // Up to DAY 999 and not beyond: what is done on DAY 998 tells a from b.
+        int[][] last = {{968, 1, 0, 99}, {969, 30, 2, 2}, {970, 29, 2, 2}, {997, 2, 2, 2}, {998, 1, 2, 2}};
+        for (int[] row : last) {
+            CarbonMinistry y = of(lettered(3) + "feeling j;carbon a to c sheets 1;carbon b to c sheets 1;fades feel;"
+                + "passes (strength-sheets)*max(0,min(1,day-997));");
+            goTo(y, row[0]);
+            discover(y, 0, 2, 0);
+            for (int what = 0; what < 3; what++) {
+                due("tells(0, " + what + ") at DAY " + row[0], y.tells(0, what), row[what + 1]);
+            }
+        }
+
+        CarbonMinistry never = of(lettered(3) + "feeling j;carbon a to c sheets 1;carbon b to c sheets 1;fades feel;"
+            + "passes (strength-sheets)*max(0,min(1,day-998));");
+        goTo(never, 980);
+        discover(never, 0, 2, 0);
+        due("DAY 999 does not pass: DAYS", never.tells(0, 0), 1);
+        due("DAY 999 does not pass: left", never.tells(0, 2), 99);
 
         sentence("Promise 22", "NONE without any, when no DAY comes, there is none such, or for others.");
         discover(one, 0, 7, 99, 0, 7, 98);
@@ -1023,6 +1192,19 @@ final class EdgeCalls extends Desk {
             }
             due("has(7) ahead of ACT " + k, x.has(7), kept[k]);
             due("has(9)", x.has(9), k);
+        }
+        // What is KEPT is as it was, beyond the last 40 too.
+        CarbonMinistry many = of(AB + "felt j of a is 99;fades 99-day/10;acts all;");
+        many.days(45);
+        many.put(1, 0, 9);
+        many.days(77);
+        due("the oldest", many.kept(0, 0), 102);
+        many.undo();
+        due("has(7)", many.has(7), 40);
+        for (int k = 0; k < 40; k++) {
+            due("kept(" + k + ", 0)", many.kept(k, 0), 5 + k);
+            due("kept(" + k + ", 1)", many.kept(k, 1), 0);
+            due("kept(" + k + ", 3)", many.kept(k, 3), 99 - (5 + k) / 10);
         }
         // The seed stays: an undone ACT of three draws leaves it where one that was not undone does.
         CarbonMinistry z = of("slip 100;");

@@ -144,6 +144,7 @@ final class EdgeDays extends Desk {
     private static void fading() {
         sentence("Terms", "if it is above 0, the SUM of fades, 0 .. 99 (below is 0, above 99)");
         due("felt by 0", of(AB + "fades 7;").later(0, 0, 1), 0);
+        due("felt by 0, but by another", of(AB + "felt j of b is 5;fades 7;").later(0, 0, 1), 0);
         due("felt by 1", of(AB + "felt j of a is 1;fades 7;").later(0, 0, 1), 7);
         int[][] due = {{-9999, 0}, {-1, 0}, {0, 0}, {1, 1}, {98, 98}, {99, 99}, {100, 99}, {9999, 99}};
         for (int[] row : due) {
@@ -160,6 +161,8 @@ final class EdgeDays extends Desk {
             + "0 .. 99 (below is 0, above 99).");
         due("felt by 0", of(AB + A_TO_B + "passes 7;").later(1, 0, 1), 0);
         due("felt by 1", of(AB + A_TO_B + "felt j of a is 1;passes 7;").later(1, 0, 1), 7);
+        due("felt by 0, but by another", of(AB + A_TO_B + "felt j of b is 5;passes 7;").later(1, 0, 1), 0);
+        due("felt by 0, and what stays", of(AB + A_TO_B + "felt j of b is 5;passes 7;fades feel;").later(1, 0, 1), 5);
         int[][] due = {{-9999, 0}, {-1, 0}, {0, 0}, {1, 1}, {98, 98}, {99, 99}, {100, 99}, {9999, 99}};
         for (int[] row : due) {
             String sum = row[0] < 0 ? "0-" + -row[0] : "" + row[0];
@@ -250,11 +253,20 @@ final class EdgeDays extends Desk {
         }
     }
 
+    /** The least seed whose first draw of 100 is told. */
+    private static int drawing(int first) {
+        int seed = 0;
+        while (new Draws(seed).next(100) != first) {
+            seed++;
+        }
+        return seed;
+    }
+
     private static void bySeed() {
         sentence("Terms", "BY THE SEED a DAY begins with a DRAW of 100: below slip");
-        for (int seed : new int[] {1, 2, 3, 77, 0, HIGH}) {
+        for (int seed : new int[] {1, 2, 3, 77, 0, HIGH, drawing(0), drawing(1), drawing(98), drawing(99)}) {
             int first = new Draws(seed).next(100);
-            for (int slip : new int[] {first - 1, first, first + 1, 100}) {
+            for (int slip : new int[] {0, first - 1, first, first + 1, 100}) {
                 if (slip < 0 || slip > 100) {
                     continue;
                 }
@@ -264,6 +276,9 @@ final class EdgeDays extends Desk {
                 due("has(5)", x.has(5), first < slip ? 1 : 0);
             }
         }
+        CarbonMinistry without = of(AB + A_TO_B);
+        without.seed(drawing(0));
+        due("a DRAW of 0, without slip", without.chance(1), 0);
         // It begins so: what is TURNED then leads the other way on that DAY.
         CarbonMinistry y = of(AB + A_TO_B + "felt j of a is 9;felt j of b is 6;slip 100;passes strength;acts all;");
         due("chance", y.chance(1), 1);
@@ -485,10 +500,46 @@ final class EdgeDays extends Desk {
             due("strongest" + from, x.strongest(0, row[1]) != NONE, comes);
             due("acted" + from, x.acted(row[1]) != NONE, comes);
         }
+        byTheDay();
         // From now on: what is so now counts.
         CarbonMinistry y = of(AB + A_TO_B + "felt j of a is 60;fades feel;passes day;");
         y.days(4);
         due("DAYS 4 and 5", y.later(1, 0, 2) - y.feels(1, 0), 9);
+    }
+
+    /** Each of the DAYS AHEAD by its own number, from the DAY on which it is asked. */
+    private static void byTheDay() {
+        String text = lettered(3) + "feeling j;carbon a to b sheets 1;carbon b to c sheets 1;felt j of a is 50;"
+            + "fades feel*max(0,min(1,day-4));passes max(0,strength-day);acts day=7 and feel>0;";
+        CarbonMinistry x = of(text);
+        due("a fades on DAY 0", x.later(0, 0, 1), 0);
+        due("b has it less DAY 0", x.later(1, 0, 1), 50);
+        due("c has it less DAY 1", x.later(2, 0, 2), 49);
+        due("settles", x.settles(), 3);
+        due("acted", x.acted(60), 0);
+        due("strongest", x.strongest(0, 2), 2);
+        due("turning", x.turning(0, 0, 49, 2), NONE);
+        discover(x, 2, 2, 49);
+        due("the source", x.sources(0, 0), 50);
+        due("how many", x.sources(0, NONE), 1);
+        goTo(x, 6);
+        due("a stays on DAY 6", x.later(0, 0, 1), 50);
+        due("b has it less DAY 6", x.later(1, 0, 1), 44);
+        due("b has what stays and it less DAY 7", x.later(1, 0, 2), 87);
+        due("acted on DAY 7", x.acted(2), 3);
+        due("acted on DAY 6", x.acted(1), 0);
+        due("acted", x.acted(60), 3);
+        due("strongest", x.strongest(0, 1), 0);
+        due("strongest", x.strongest(0, 2), 1);
+        x.put(0, 0, 0);
+        x.put(1, 0, 50);
+        due("turning on DAY 6", x.turning(0, 0, 44, 1), 1);
+        due("turning on DAY 6, one more", x.turning(0, 0, 45, 1), NONE);
+        due("turning on DAYS 6 and 7", x.turning(0, 0, 87, 2), 1);
+        due("turning on DAYS 6 and 7, one more", x.turning(0, 0, 88, 2), NONE);
+        discover(x, 2, 2, 37, 2, 0, 50);
+        due("the source of 44 less 7", x.sources(0, 0), 50);
+        due("how many", x.sources(0, NONE), 1);
     }
 
     private static void settled() {
@@ -611,6 +662,11 @@ final class EdgeDays extends Desk {
         CarbonMinistry w = of(lettered(6) + "carbon a to b sheets 1;carbon a to c sheets 1;carbon b to e sheets 1;"
             + "carbon b to d sheets 1;carbon c to d sheets 1;carbon d to f sheets 1;carbon e to f sheets 1;");
         due("two rows", w.cutting(0, 5), 2);
+        CarbonMinistry v = of(lettered(4) + "carbon a to c sheets 1;carbon d to c sheets 1;carbon c to b sheets 1;"
+            + "carbon b to d sheets 1;carbon c to a sheets 1;carbon a to b sheets 1;carbon a to b sheets 1;"
+            + "carbon c to a sheets 1;carbon c to d sheets 1;carbon c to d sheets 1;carbon a to b sheets 1;");
+        due("one way into c, one out of b", v.cutting(0, 3), 2);
+        due("two out of c, and one to b", v.cutting(2, 3), 3);
     }
 
     private static void found() {
@@ -691,6 +747,18 @@ final class EdgeDays extends Desk {
                 due("tells(0, " + what + ") of DAY " + row[0], x.tells(0, what), row[what + 1]);
             }
         }
+        // a, b or c by 10: the day after each tells one from two, on the second day g tells all three.
+        CarbonMinistry three = of(lettered(7) + "feeling j;carbon a to d sheets 1;carbon b to d sheets 1;carbon c to d sheets 1;"
+            + "carbon a to e sheets 2;carbon b to f sheets 2;carbon e to g sheets 1;carbon f to g sheets 3;");
+        discover(three, 1, 3, 9);
+        due("sources", three.sources(0, NONE), 3);
+        due("the second DAY", three.tells(0, 0), 2);
+        due("g", three.tells(0, 1), 6);
+        due("one is left", three.tells(0, 2), 1);
+        three.pull(6, 0);
+        due("the first DAY", three.tells(0, 0), 1);
+        due("e", three.tells(0, 1), 4);
+        due("two are left", three.tells(0, 2), 2);
         // Whatever it is: 0 counts as any other strength.
         CarbonMinistry y = of(AB + "fades feel;");
         discover(y, 0, 1, 0);

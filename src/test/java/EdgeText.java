@@ -553,6 +553,23 @@ final class EdgeText extends Desk {
         faulty(1, "slip @sliplong;");
         faulty(1, "passes 1 @abcdefghij;");
         faulty(1, "slip 1@!");
+        faulty(1, "slip 1@:;");
+        faulty(1, "slip 1@/;");
+        faulty(1, "slip @:;");
+        faulty(1, "slip @;");
+        faulty(1, "officer a shape 1 press @;");
+        faulty(1, "officer a shape @press 1;");
+        faulty(1, "officer @;");
+        faulty(1, "feeling @;");
+        faulty(1, AB + "carbon a to b sheets @;");
+        faulty(1, AB + "carbon a to b @;");
+        faulty(1, AB + "carbon a to @;");
+        faulty(1, AB + "carbon @;");
+        faulty(1, ABJ + "felt j of a is @;");
+        faulty(1, ABJ + "felt j of @;");
+        faulty(1, "passes @;");
+        faulty(1, "fades @;");
+        faulty(1, "acts @;");
         faulty(1, "slip 1@\u00ff;");
     }
 

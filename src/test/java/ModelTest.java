@@ -12,7 +12,7 @@ public final class ModelTest {
     private static final int[] faults = new int[6];
 
     public static void main(String[] args) {
-        int runs = args.length > 0 ? Integer.parseInt(args[0]) : 400;
+        int runs = args.length > 0 ? Integer.parseInt(args[0]) : 460;
         long from = args.length > 1 ? Long.parseLong(args[1]) : 1;
         for (long k = from; k < from + runs && wrong < 5; k++) {
             new Run(k).go();
@@ -1529,7 +1529,8 @@ public final class ModelTest {
             if (r.nextInt(6) != 0) {
                 readMinistry();
             }
-            while (made < 420 && !broken) {
+            // The last round may make some 90 calls, the look around behind it 50: 512 at most.
+            while (made < 360 && !broken) {
                 switch (r.nextInt(20)) {
                     case 0: readMinistry(); break;
                     case 1: case 2: case 3: askSomething(); break;

@@ -162,10 +162,10 @@ public final class PromiseTest extends Desk {
         for (int k = 0; k < 5; k++) {
             due("ministry", read(x, "passes 1" + times("+1", 795) + " ;"), 1);
         }
-        due("ministry", read(x, "officer a shape 1 press 1;"), 1);
-        due("ask", ask(x, "total 1" + times("+1", 796) + " "), 797);
-        due("ask", ask(x, "total 1" + times("+1", 796) + "+"), NOTHING);
-        due("place", x.fault(1), 1600);
+        CarbonMinistry y = of("officer a shape 1 press 1;");
+        due("ask", ask(y, "total 1" + times("+1", 796) + " "), 797);
+        due("ask", ask(y, "total 1" + times("+1", 796) + "+"), NOTHING);
+        due("place", y.fault(1), 1600);
     }
 
     private static void promise5() {
