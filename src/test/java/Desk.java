@@ -5,6 +5,8 @@ import java.nio.file.Files;
 import java.nio.file.Path;
 import java.util.ArrayList;
 import java.util.List;
+import java.util.regex.MatchResult;
+import java.util.regex.Pattern;
 
 /**
  * What the tests of edges share: the tape, the sentences of the document, answers that are due, and calls that must
@@ -38,21 +40,37 @@ class Desk {
     // ---- the document and its sentences
 
     private static String document() {
+        return fileText("../shared/DOC.md").replaceAll("```(text|java)?", " ").replaceAll("\\s+", " ");
+    }
+
+    static String fileText(String path) {
         try {
-            return Files.readString(Path.of("../shared/DOC.md"), StandardCharsets.UTF_8)
-                .replaceAll("```(text|java)?", " ").replaceAll("\\s+", " ");
+            return Files.readString(Path.of(path), StandardCharsets.UTF_8);
         } catch (IOException e) {
             throw new UncheckedIOException(e);
         }
+    }
+
+    /** Where a part of the document starts and where it stops; what stands ahead of the first one is the part "". */
+    private static int[] bounds(String part) {
+        int from = part.isEmpty() ? 0 : DOCUMENT.indexOf("## " + part);
+        int to = from < 0 ? 0 : DOCUMENT.indexOf(" ## ", from);
+        return new int[] {Math.max(from, 0), to < 0 ? DOCUMENT.length() : to};
+    }
+
+    /** All words in a part of the document that match, from the first to the last. */
+    static List<String> found(String part, String pattern) {
+        int[] bounds = bounds(part);
+        return Pattern.compile(pattern).matcher(DOCUMENT.substring(bounds[0], bounds[1])).results()
+            .map(MatchResult::group).toList();
     }
 
     /** What is tested from here on: words that stand once in the document, in the part that is named. */
     static void sentence(String part, String words) {
         sentence = part + ", '" + words + "'";
         sentences++;
-        int from = DOCUMENT.indexOf("## " + part);
-        int to = DOCUMENT.indexOf(" ## ", from + 3);
-        String text = from < 0 ? "" : DOCUMENT.substring(from, to < 0 ? DOCUMENT.length() : to);
+        int from = bounds(part)[0];
+        String text = DOCUMENT.substring(from, bounds(part)[1]);
         int at = text.indexOf(words);
         if (at < 0 || text.indexOf(words, at + 1) >= 0) {
             complain("is not a sentence that stands there once");
@@ -73,14 +91,22 @@ class Desk {
     static void allIsNamed(String from, String to) {
         int start = DOCUMENT.indexOf(from);
         int stop = DOCUMENT.indexOf(to, start);
+        if (start < 0 || stop < 0) {
+            complain("the document is without '" + from + "' or, behind it, '" + to + "'");
+            return;
+        }
+        allIsNamed(start, stop, "the document from '" + from + "' on");
+    }
+
+    private static void allIsNamed(int start, int stop, String what) {
         StringBuilder left = new StringBuilder();
         for (int k = start; k < stop; k++) {
             boolean counts = !named[k] && Character.isLetterOrDigit(DOCUMENT.charAt(k));
             left.append(counts ? DOCUMENT.charAt(k) : ' ');
         }
         String words = left.toString().trim().replaceAll("\\s+", " ");
-        sentence = "the document from '" + from + "' on";
-        if (start < 0 || stop < 0 || !words.isEmpty()) {
+        sentence = what;
+        if (!words.isEmpty()) {
             complain("has words that no test names: " + words);
         }
     }
@@ -92,6 +118,11 @@ class Desk {
             int next = DOCUMENT.indexOf(n < 34 ? "## Promise " + (n + 1) + ":" : "## Not promised");
             allIsNamed(DOCUMENT.substring(at, next), DOCUMENT.substring(next, next + 14));
         }
+    }
+
+    /** From its first line to its last each word of the document must stand in a sentence that was tested. */
+    static void allOfItIsNamed() {
+        allIsNamed(0, DOCUMENT.length(), "the document");
     }
 
     private static void complain(String what) {

@@ -44,7 +44,7 @@ final class EdgeCalls extends Desk {
     }
 
     private static void constantsAndCalls() {
-        sentence("Terms", "`NONE = -1`: There is none; it is refused.");
+        sentence("Terms", "The constants: `NONE = -1`: There is none; it is refused.");
         due("NONE", CarbonMinistry.NONE, -1);
         due("there is none", new CarbonMinistry().feels(0, 0), CarbonMinistry.NONE);
         due("it is refused", new CarbonMinistry().days(0), CarbonMinistry.NONE);
@@ -54,7 +54,7 @@ final class EdgeCalls extends Desk {
         due("ask of nothing", new CarbonMinistry().ask(), CarbonMinistry.NOTHING);
         due("ask of a number below 0", ask(of(AB), "total 0-1"), -2);
 
-        sentence("What it is", "An object is used for at most 512 calls after it has been made");
+        sentence("What it is", "An object is used for at most 512 calls after it has been made; what later calls answer is free.");
         CarbonMinistry x = new CarbonMinistry();
         String text = AB + times(A_TO_B, 12) + "felt j of b is 9;fades feel;acts all;";
         int made = (text.length() + 19) / 20 + 3;
@@ -224,6 +224,20 @@ final class EdgeCalls extends Desk {
             alike(NONE, "ministry of '" + text + "' behind another", with, fresh);
         }
         oneBehindAnother();
+        largeOnes();
+    }
+
+    /** As much of laws as a tape holds, as often as 512 calls allow: none takes another's place. */
+    private static void largeOnes() {
+        CarbonMinistry x = new CarbonMinistry();
+        String small = AB + A_TO_B + "felt j of a is 9;passes ";
+        String large = small + times("1-1+", (1599 - small.length()) / 4 - 1) + "7;";
+        String slow = small.replace("passes", "fades") + times("min(1,", 6) + "feel" + times(")", 6) + times("+0*feel", 180) + ";";
+        for (int k = 0; k < 6; k++) {
+            due("ministry of " + large.length() + " bytes", read(x, k % 3 == 2 ? slow : large), 6);
+            due("passes", x.passes(0, 0), k % 3 == 2 ? 8 : 7);
+            due("later", x.later(0, 0, 1), k % 3 == 2 ? 1 : 0);
+        }
     }
 
     /** Whatever was told ahead of it, with a FAULT or without, a MINISTRY is as on a new object. */
@@ -268,6 +282,13 @@ final class EdgeCalls extends Desk {
         due("of ask", x.fault(0), 4);
         read(x, AB);
         due("without, of ministry", x.fault(0), 0);
+        due("without, of a question of all sorts", ask(x, "first not[feels(number)>min(steps 1,2)*3/(4+shape)-max(day,press)] "
+            + "or all and 1=1"), 0);
+        due("without, of ask", x.fault(0), 0);
+        ask(x, "total (((((((1");
+        due("without, of statements of all sorts", read(x, OFFICE), 14);
+        due("without, of ministry", x.fault(0), 0);
+        due("without, no place", x.fault(1), NONE);
         ask(x, "nothing");
         due("of ask", x.fault(0), 1);
 
@@ -555,7 +576,9 @@ final class EdgeCalls extends Desk {
         x.days(9);
         due("has(7)", x.has(7), 40);
         due("kept(39, 0)", x.kept(39, 0), 27);
-        due("kept(40, 0)", x.kept(40, 0), NONE);
+        for (int bad : new int[] {-1, -2, -40, -41, 40, 41, 80, HIGH, LOW}) {
+            due("kept(" + bad + ", 0) of more than 40", x.kept(bad, 0), NONE);
+        }
         due("of a new object", new CarbonMinistry().kept(0, 0), NONE);
     }
 
@@ -741,6 +764,13 @@ final class EdgeCalls extends Desk {
         due("by 1 alone", y.turning(0, 0, 1, 0), 0);
         due("by 2", y.turning(0, 0, 2, 0), NONE);
         due("felt by nobody", of(AB + A_TO_B).turning(0, 0, 1, 1), NONE);
+        // Of so many out of twelve the ones that come last are the only ones.
+        for (int many = 0; many <= 12; many++) {
+            CarbonMinistry last = of(AB + times("carbon b to a sheets 1;", 12 - many) + times("carbon a to b sheets 1;", many)
+                + "felt j of b is 9;");
+            due("the last " + many + " of twelve", last.turning(0, 0, 96, 1), 4096 - (4096 >> many));
+            due("in vain", last.turning(0, 0, 97, 1), NONE);
+        }
         // Each OFFICER by his own CARBON.
         StringBuilder star = new StringBuilder(lettered(8) + "feeling j;felt j of h is 50;");
         for (int o = 0; o < 7; o++) {
@@ -790,6 +820,7 @@ final class EdgeCalls extends Desk {
         z.pull(0, 0);
         due("cutting(6, 7)", z.cutting(6, 7), 11);
         due("nothing is pulled", z.has(4), 11);
+        longRows();
 
         sentence("Promise 19", "; NONE when they are one, or there are none such.");
         for (int o = 0; o < 3; o++) {
@@ -800,6 +831,28 @@ final class EdgeCalls extends Desk {
             none("cutting(" + bad + ", 0)", y -> y.cutting(bad, 0));
             none("cutting(0, " + bad + ")", y -> y.cutting(0, bad));
             none("cutting(" + bad + ", " + bad + ")", y -> y.cutting(bad, bad));
+        }
+    }
+
+    /** Rows of seven CARBONS, told from the last to the first or the other way, some of them twice. */
+    private static void longRows() {
+        for (int way = 0; way < 2; way++) {
+            StringBuilder row = new StringBuilder(lettered(8));
+            for (int k = 0; k < 7; k++) {
+                int from = way == 0 ? k : 6 - k;
+                row.append("carbon ").append((char) ('a' + from)).append(" to ").append((char) ('b' + from)).append(" sheets 1;");
+            }
+            CarbonMinistry x = of(row.toString());
+            due("a row of seven", x.cutting(0, 7), 1);
+            due("none back", x.cutting(7, 0), 0);
+            CarbonMinistry y = of(row + "carbon a to b sheets 1;carbon c to d sheets 1;carbon e to f sheets 1;carbon g to h sheets 1;");
+            due("a row of seven, some twice", y.cutting(0, 7), 1);
+            due("twice", y.cutting(0, 1), 2);
+            due("twice", y.cutting(6, 7), 2);
+            y.pull(7, 0);
+            due("once", y.cutting(0, 1), 1);
+            CarbonMinistry z = of(row + "carbon a to e sheets 1;carbon b to h sheets 1;carbon d to h sheets 1;carbon a to g sheets 1;");
+            due("three from a to h, by b, by e, by g, which h takes of g, b and d", z.cutting(0, 7), 2);
         }
     }
 

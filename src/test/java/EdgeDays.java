@@ -27,15 +27,15 @@ final class EdgeDays extends Desk {
         sources();
         telling();
         images();
-        allIsNamed("Each OFFICER feels each FEELING", "III. AHEAD");
-        allIsNamed("AHEAD are DAYS", "IV. A QUESTION");
+        allIsNamed("II. Each OFFICER feels each FEELING", "III. AHEAD");
+        allIsNamed("III. AHEAD are DAYS", "IV. A QUESTION");
         allIsNamed("AN IMAGE: DAY", "The constants:");
     }
 
     // ---- II
 
     private static void atFirst() {
-        sentence("Terms", "Each OFFICER feels each FEELING by a strength, 0 .. 99, 0 at first, if it is not told.");
+        sentence("Terms", "II. Each OFFICER feels each FEELING by a strength, 0 .. 99, 0 at first, if it is not told.");
         CarbonMinistry x = of(lettered(8) + "feeling w;feeling x;feeling y;feeling z;felt y of d is 99;felt z of d is 1;");
         for (int o = 0; o < 8; o++) {
             for (int f = 0; f < 4; f++) {
@@ -480,7 +480,7 @@ final class EdgeDays extends Desk {
     // ---- III
 
     private static void ahead() {
-        sentence("Terms", "AHEAD are DAYS as they come from now on without DRAWS (60 at most, not beyond DAY 999).");
+        sentence("Terms", "III. AHEAD are DAYS as they come from now on without DRAWS (60 at most, not beyond DAY 999).");
         CarbonMinistry x = of(AB + A_TO_B + "felt j of a is 60;fades feel;slip 100;passes day;acts all;");
         due("60 days", x.later(1, 0, 60), 99);
         due("61 days", x.later(1, 0, 61), NONE);
@@ -667,6 +667,59 @@ final class EdgeDays extends Desk {
             + "carbon c to a sheets 1;carbon c to d sheets 1;carbon c to d sheets 1;carbon a to b sheets 1;");
         due("one way into c, one out of b", v.cutting(0, 3), 2);
         due("two out of c, and one to b", v.cutting(2, 3), 3);
+        manyCuts();
+    }
+
+    /** Offices drawn, twelve CARBONS among six or eight: each CUT against all that can be pulled. */
+    private static void manyCuts() {
+        Draws draws = new Draws(5);
+        for (int office = 0; office < 60; office++) {
+            int officers = 6 + office % 2 * 2;
+            StringBuilder text = new StringBuilder(lettered(officers));
+            int[] from = new int[12];
+            int[] to = new int[12];
+            for (int c = 0; c < 12; c++) {
+                from[c] = draws.next(officers);
+                to[c] = (from[c] + 1 + draws.next(officers - 1)) % officers;
+                text.append("carbon ").append((char) ('a' + from[c])).append(" to ").append((char) ('a' + to[c])).append(" sheets 1;");
+            }
+            CarbonMinistry x = of(text.toString());
+            int turned = draws.next(13);
+            int pulled = draws.next(13);
+            if (turned < 12) {
+                x.turn(turned, 1);
+                int first = from[turned];
+                from[turned] = to[turned];
+                to[turned] = first;
+            }
+            x.pull(pulled, 0);
+            int in = pulled < 12 ? 0xfff ^ 1 << pulled : 0xfff;
+            for (int one = 0; one < officers; one++) {
+                int other = (one + 1 + office % (officers - 1)) % officers;
+                due("cutting(" + one + ", " + other + ") of " + text, x.cutting(one, other), cut(from, to, in, one, other));
+            }
+        }
+    }
+
+    private static int cut(int[] from, int[] to, int in, int one, int other) {
+        int fewest = 12;
+        for (int pulled = 0; pulled < 4096; pulled++) {
+            int many = Integer.bitCount(pulled);
+            if ((pulled & ~in) == 0 && many < fewest && !leads(from, to, in & ~pulled, one, other)) {
+                fewest = many;
+            }
+        }
+        return fewest;
+    }
+
+    private static boolean leads(int[] from, int[] to, int in, int one, int other) {
+        int seen = 1 << one;
+        for (int step = 0; step < 8; step++) {
+            for (int c = 0; c < 12; c++) {
+                seen |= (in >> c & 1) == 1 && (seen >> from[c] & 1) == 1 ? 1 << to[c] : 0;
+            }
+        }
+        return (seen >> other & 1) == 1;
     }
 
     private static void found() {

@@ -4,9 +4,11 @@ public final class EdgeTest {
     }
 
     public static void main(String[] args) {
+        EdgeFace.run();
         EdgeText.run();
         EdgeDays.run();
         EdgeCalls.run();
+        Desk.allOfItIsNamed();
         Desk.finish();
     }
 }

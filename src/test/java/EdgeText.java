@@ -1,3 +1,7 @@
+import java.util.ArrayList;
+import java.util.Arrays;
+import java.util.List;
+
 /** The sentences of "Terms" on texts: I, a ministry, and IV, a question. At the last value inside, the first outside. */
 final class EdgeText extends Desk {
     private static final String[] OWN_WORDS = {"officer", "shape", "press", "feeling", "carbon", "to", "sheets", "felt",
@@ -31,14 +35,14 @@ final class EdgeText extends Desk {
         questions();
         questionParts();
         questionFaults();
-        allIsNamed("A MINISTRY is a text", "II. Each");
-        allIsNamed("A QUESTION is a text", "AN IMAGE: DAY");
+        allIsNamed("I. A MINISTRY is a text", "II. Each");
+        allIsNamed("IV. A QUESTION is a text", "AN IMAGE: DAY");
     }
 
     // ---- I, the statements
 
     private static void kindsOfStatement() {
-        sentence("Terms", "A MINISTRY is a text: { STATEMENT ; } (60 at most)");
+        sentence("Terms", "I. A MINISTRY is a text: { STATEMENT ; } (60 at most)");
         for (int n : new int[] {0, 1, 2, 59, 60}) {
             due("ministry of " + n, read(new CarbonMinistry(), times("slip 1;", n)), n);
         }
@@ -571,6 +575,114 @@ final class EdgeText extends Desk {
         faulty(1, "fades @;");
         faulty(1, "acts @;");
         faulty(1, "slip 1@\u00ff;");
+        eachWordByAnother();
+        eachPartByAnother();
+    }
+
+    private static final String[] SIGNS = {";", ",", "(", ")", "[", "]", "<", ">", "=", "+", "-", "*", "/", "!", ".", ":", "A",
+        "\t", "\r", "\u0000", "\u00ff"};
+
+    private static List<String> anything() {
+        List<String> all = new ArrayList<>(Arrays.asList(OWN_WORDS));
+        all.addAll(Arrays.asList(SIGNS));
+        all.addAll(Arrays.asList("a", "b", "j", "zz", "first", "7"));
+        return all;
+    }
+
+    /** Each word, NAME, number, sign of the statements made another: the fault is there, whatever comes behind it. */
+    private static void eachWordByAnother() {
+        String[] tokens = ("officer a shape 1 press 2 ; officer b shape 3 press 4 ; feeling j ; carbon a to b sheets 5 ; "
+            + "felt j of a is 60 ; slip 7 ;").split(" ");
+        // s starts a statement, n is a NAME to be given, o and f are those of an OFFICER, a FEELING, # a number, w the rest.
+        String kinds = "snw#w#w" + "snw#w#w" + "snw" + "sowow#w" + "sfwow#w" + "s#w";
+        due("kinds", kinds.length(), tokens.length);
+        for (int k = 0; k < tokens.length; k++) {
+            for (String other : anything()) {
+                int kind = faultOf(kinds.charAt(k), tokens, k, other);
+                if (kind > 0) {
+                    faulty(kind, join(tokens, k, other));
+                }
+            }
+        }
+    }
+
+    /** The tokens with another one, marked, in the place of one of them. */
+    private static String join(String[] tokens, int k, String other) {
+        StringBuilder b = new StringBuilder();
+        for (int i = 0; i < tokens.length; i++) {
+            b.append(i == k ? "@" + other : tokens[i]).append(' ');
+        }
+        return b.toString();
+    }
+
+    /** The fault of another word in the place of the k-th; 0 if it may stand there (a fault comes later, or none). */
+    private static int faultOf(char kind, String[] tokens, int k, String other) {
+        boolean isName = !Arrays.asList(OWN_WORDS).contains(other) && other.matches("[a-z]+");
+        boolean isOfficer = told("officer", tokens, k).contains(other);
+        boolean isFeeling = told("feeling", tokens, k).contains(other);
+        switch (kind) {
+            case 's': return other.matches("officer|feeling|carbon|felt|passes|fades|acts|slip") ? 0 : 1;
+            case 'n': return !isName ? 1 : isOfficer || isFeeling ? 3 : 0;
+            case 'o': return !isName ? 1 : isOfficer && !(tokens[k - 1] + tokens[k - 2]).equals("to" + other) ? 0 : 3;
+            case 'f': return !isName ? 1 : isFeeling ? 0 : 3;
+            case '#': return other.equals("7") ? 0 : 1;
+            default: return other.equals(tokens[k]) ? 0 : 1;
+        }
+    }
+
+    /** The NAMES given ahead of the k-th word to OFFICERS, or to FEELINGS. */
+    private static List<String> told(String sort, String[] tokens, int k) {
+        List<String> names = new ArrayList<>();
+        for (int i = 0; i + 1 < k; i++) {
+            if (tokens[i].equals(sort)) {
+                names.add(tokens[i + 1]);
+            }
+        }
+        return names;
+    }
+
+    private static final String START = " 7 press shape day ( min max ";
+
+    /** Each word and sign of a law or a question made another; behind its colon stands what else may be there. */
+    private static void eachPartByAnother() {
+        String sum = START + "strength sheets ";
+        eachPart(false, "passes", "min:" + sum, "(:(", "strength:" + sum, "-:,", "1:" + sum, ",:,", "9:" + sum, "):)", "*:;",
+            "(:" + sum, "2:" + sum, "):)", ";:;");
+        sum = START + "feel ";
+        eachPart(false, "fades", "(:" + sum, "feel:" + sum, "):)", "/:;", "2:" + sum, ";:;");
+        sum = START + "feel feeling ";
+        String test = sum + "not [ all ";
+        eachPart(false, "acts", "[:" + test, "not:" + test, "feel:" + test, "+:< > =", "feeling:" + sum, ">:< > =", "50:" + sum,
+            "or:or and ]", "not:" + test, "all:" + test, "]:; or and ]", "and:; or and", "all:" + test, ";:; or and");
+        sum = START + "number feels steps ";
+        test = sum + "not [ all ";
+        eachPart(true, "first", "not:" + test, "feels:" + test, "(:" + sum, "number:" + sum, "+:)", "1:" + sum, "):)", "<:< > =",
+            "steps:" + sum, "min:" + sum, "(:(", "shape:" + sum, ",:,", "2:" + sum, "):)", "and:or and", "[:" + test,
+            "all:" + test, "or:or and ]", "press:" + test, "=:< > =", "day:" + sum, "]:or and ]");
+        eachPart(true, "total", "1:" + sum, "-:", "feels:" + sum, "1:" + sum, "*:", "steps:" + sum, "number:" + sum);
+    }
+
+    private static void eachPart(boolean question, String first, String... rows) {
+        String[] tokens = new String[rows.length];
+        for (int k = 0; k < rows.length; k++) {
+            tokens[k] = rows[k].substring(0, rows[k].indexOf(':'));
+        }
+        for (int k = 0; k < rows.length; k++) {
+            String may = " " + rows[k].substring(tokens[k].length() + 1) + " ";
+            boolean isPart = may.contains(" press ") || may.equals(" ( ");
+            boolean isBehindFact = k > 0 && (tokens[k - 1].equals("all") || tokens[k - 1].equals("]"));
+            may += isPart || isBehindFact ? "" : "+ - * / ";
+            for (String other : anything()) {
+                if (may.contains(" " + other + " ")) {
+                    continue;
+                }
+                if (question) {
+                    puzzled(1, first + " " + join(tokens, k, other));
+                } else {
+                    faulty(1, first + " " + join(tokens, k, other));
+                }
+            }
+        }
     }
 
     private static void placesOfWordsAndNumbers() {
@@ -743,7 +855,7 @@ final class EdgeText extends Desk {
         CarbonMinistry eight = of(lettered(8));
         CarbonMinistry nobody = new CarbonMinistry();
 
-        sentence("Terms", "A QUESTION is a text, of all OFFICERS: first TEST, last TEST "
+        sentence("Terms", "IV. A QUESTION is a text, of all OFFICERS: first TEST, last TEST "
             + "(the first, the last OFFICER for whom it holds)");
         due("first all", ask(eight, "first all"), 0);
         due("last all", ask(eight, "last all"), 7);
