@@ -285,6 +285,16 @@ class Desk {
         alike(kind, name, with, without);
     }
 
+    /** A call that takes the tape and leaves all else as it is, but for the fault. */
+    static void leavesAllButFault(String name, Call call) {
+        CarbonMinistry with = busy();
+        CarbonMinistry without = busy();
+        call.of(with);
+        without.end(0);
+        counted(NONE, name, with, without);
+        likeShown(name, with, without);
+    }
+
     /** The text of a ministry with an @ at the place of its fault. */
     static void faulty(int kind, String marked) {
         String name = "ministry of " + marked;
@@ -309,6 +319,64 @@ class Desk {
         without.end(0);
         counted(NONE, name, with, without);
         likeShown(name, with, without);
+    }
+
+    /** An ACT that is done with an office at work: of all that it shows, what starts so changes, and nothing else does. */
+    static void changesOnly(String name, Call call, String... changed) {
+        CarbonMinistry x = busy();
+        x.put(0, 0, 77);
+        x.put(0, 1, 45);
+        List<String> before = all(x);
+        due(name + " is done", call.of(x) > 0, true);
+        List<String> behind = all(x);
+        boolean[] seen = new boolean[changed.length];
+        for (int k = 0; k < Math.max(before.size(), behind.size()); k++) {
+            String was = k < before.size() ? before.get(k) : "";
+            String is = k < behind.size() ? behind.get(k) : "";
+            boolean may = was.equals(is);
+            for (int i = 0; i < changed.length; i++) {
+                if (!was.equals(is) && (was + is).startsWith(changed[i])) {
+                    seen[i] = true;
+                    may = true;
+                }
+            }
+            due("behind " + name + " " + was + " is " + is, may, true);
+        }
+        for (int i = 0; i < changed.length; i++) {
+            due("by " + name + " " + changed[i] + " changes", seen[i], true);
+        }
+    }
+
+    /** All that an object shows now and that no call ahead or question works out: a line for each. */
+    private static List<String> all(CarbonMinistry x) {
+        List<String> all = new ArrayList<>();
+        for (int k = 0; k < 10; k++) {
+            all.add("has(" + k + ") " + x.has(k));
+        }
+        for (int o = 0; o < x.has(0); o++) {
+            for (int k = 0; k < 6; k++) {
+                all.add("letter(0, " + o + ", " + k + ") " + x.letter(0, o, k));
+                all.add("officer(" + o + ", " + k + ") " + x.officer(o, k));
+                all.add("feels(" + o + ", " + k + ") " + x.feels(o, k));
+            }
+        }
+        for (int c = 0; c < x.has(2); c++) {
+            for (int k = 0; k < 5; k++) {
+                all.add("carbon(" + c + ", " + k + ") " + x.carbon(c, k));
+            }
+        }
+        for (int k = 0; k < 6; k++) {
+            all.add("status(" + k + ") " + x.status(k));
+            all.add("fault(" + k + ") " + x.fault(k));
+        }
+        for (int k = 0; k < 16; k++) {
+            all.add("octet(" + k + ") " + x.octet(k));
+        }
+        // What is KEPT comes last, as it may be more then.
+        for (int k = 0; k < x.has(7); k++) {
+            all.add("kept(" + k + ") " + x.kept(k, 0) + " " + x.kept(k, 1) + " " + x.kept(k, 2) + " " + x.kept(k, 3));
+        }
+        return all;
     }
 
     /** That the one shows what the other shows, with so many more refusals of a kind; uses both up. */

@@ -122,6 +122,8 @@ final class EdgeCalls extends Desk {
         due("end", y.end(3), true);
         due("on of 0, 0, 161", y.on(), true);
 
+        changesOnly("feed", z -> z.feed(1, 2, 3, 4, 5));
+
         sentence("Promise 2", "; NONE, refused (0), if there would be more than 1600.");
         CarbonMinistry z = new CarbonMinistry();
         for (int k = 1; k <= 80; k++) {
@@ -168,6 +170,8 @@ final class EdgeCalls extends Desk {
         put(y, "total 1");
         due("end(0)", y.end(0), true);
         due("ministry of none", y.ministry(), 0);
+
+        changesOnly("end", z -> bit(z.end(7)));
 
         sentence("Promise 3", "; false, refused (0), if it has not so many");
         for (int n : new int[] {14, 15, 1600, 1601, HIGH}) {
@@ -225,6 +229,8 @@ final class EdgeCalls extends Desk {
         }
         oneBehindAnother();
         largeOnes();
+        otherLaws();
+        unlikeMany();
     }
 
     /** As much of laws as a tape holds, as often as 512 calls allow: none takes another's place. */
@@ -238,6 +244,52 @@ final class EdgeCalls extends Desk {
             due("passes", x.passes(0, 0), k % 3 == 2 ? 8 : 7);
             due("later", x.later(0, 0, 1), k % 3 == 2 ? 1 : 0);
         }
+    }
+
+    /** One MINISTRY behind another, each with laws of its own: what the ones ahead gave is forgotten. */
+    private static void otherLaws() {
+        CarbonMinistry x = new CarbonMinistry();
+        for (int k = 0; k < 12; k++) {
+            int n = k * 7 % 12;
+            read(x, AB + "passes feeling" + n);
+            read(x, AB + A_TO_B + "felt j of a is 99;felt j of b is 64;passes strength*" + n + "/12;fades feel*" + n + "/13;acts feel>" + n + ";");
+            due("passes of law " + n, x.passes(0, 0), 99 * n / 12);
+            due("fades of law " + n, x.later(0, 0, 1), 99 * n / 13);
+            due("both by law " + n, x.later(1, 0, 1), Math.min(99, 99 * n / 12 + 64 * n / 13));
+            due("fades of law " + n + " twice", x.later(0, 0, 2), 99 * n / 13 * n / 13);
+        }
+    }
+
+    /** Fewer OFFICERS than FEELINGS, or more: each number is looked at among its own. */
+    private static void unlikeMany() {
+        CarbonMinistry x = of("officer a shape 1 press 1;feeling w;feeling x;feeling y;feeling z;felt z of a is 50;fades feel;");
+        due("feels", x.feels(0, 3), 50);
+        due("later", x.later(0, 3, 5), 50);
+        due("strongest", x.strongest(3, 5), 0);
+        due("turning", x.turning(0, 3, 50, 5), 0);
+        due("sources", x.sources(3, NONE), 99);
+        due("tells", x.tells(3, 2), 1);
+        due("letter", x.letter(1, 3, 0), 26);
+        due("put", x.put(0, 3, 51), true);
+        due("letter of OFFICER 1", x.letter(0, 1, 0), NONE);
+        due("feels of OFFICER 1", x.feels(1, 3), NONE);
+        due("put of OFFICER 1", x.put(1, 3, 5), false);
+        CarbonMinistry y = of(AB + times(A_TO_B, 3));
+        due("carbon", y.carbon(2, 1), 1);
+        due("passes", y.passes(2, 0), 0);
+        due("turn", y.turn(2, 1), true);
+        due("pull", y.pull(2, 0), true);
+        due("letter of FEELING 1", y.letter(1, 1, 0), NONE);
+        due("feels of FEELING 1", y.feels(1, 1), NONE);
+        due("later of FEELING 1", y.later(1, 1, 0), NONE);
+        due("strongest of FEELING 1", y.strongest(1, 0), NONE);
+        due("turning of FEELING 1", y.turning(1, 1, 1, 0), NONE);
+        due("sources of FEELING 1", y.sources(1, NONE), NONE);
+        due("tells of FEELING 1", y.tells(1, 0), NONE);
+        due("put of FEELING 1", y.put(1, 1, 5), false);
+        due("passes of FEELING 1", y.passes(0, 1), NONE);
+        due("steps to OFFICER 2", y.steps(0, 2), NONE);
+        due("cutting to OFFICER 2", y.cutting(0, 2), NONE);
     }
 
     /** Whatever was told ahead of it, with a FAULT or without, a MINISTRY is as on a new object. */
@@ -883,6 +935,8 @@ final class EdgeCalls extends Desk {
         due("sources", x.sources(0, NONE), 1);
         due("the source", x.sources(0, 0), 298);
 
+        changesOnly("discover", y -> discover(y, 0, 0, 0, 0, 0, 0, 0, 0, 0), "has(8)");
+
         sentence("Promise 20", "; NONE, refused (1), all staying, when it is none such.");
         for (int octets : new int[] {0, 1, 2, 4, 5, 46, 47, 49, 50, 51}) {
             refusedTape(1, "discover of " + octets + " bytes", CarbonMinistry::discover, NONE, new int[octets]);
@@ -1081,6 +1135,9 @@ final class EdgeCalls extends Desk {
         due("has(6)", x.has(6), 98 + 99);
         due("has(9)", x.has(9), 5);
 
+        changesOnly("put", y -> bit(y.put(2, 1, 99)), "feels(2, 1)", "has(6)", "has(9)");
+        changesOnly("put of 0", y -> bit(y.put(0, 1, 0)), "feels(0, 1)", "has(6)", "has(9)");
+
         sentence("Promise 23", "; false, refused (2), when it is that, there are none such, or for others.");
         refused(2, "put of what is so", y -> bit(y.put(0, 1, 44)), 0);
         refused(2, "put of 0, as it is", y -> bit(y.put(1, 1, y.feels(1, 1))), 0);
@@ -1115,6 +1172,10 @@ final class EdgeCalls extends Desk {
         due("one that is not IN", x.turn(11, 1), true);
         due("it stays so", x.carbon(11, 3), 0);
 
+        changesOnly("turn", y -> bit(y.turn(0, 1)), "carbon(0, 4)", "has(5)", "has(9)", "officer(0, ", "officer(1, ");
+        changesOnly("turn back", y -> bit(y.turn(1, 0)), "carbon(1, 4)", "has(5)", "has(9)", "officer(1, ", "officer(2, ");
+        changesOnly("turn of one not IN", y -> bit(y.turn(2, 1)), "carbon(2, 4)", "has(5)", "has(9)");
+
         sentence("Promise 24", "; false, refused (2), when it is so already, there is none such, or for others.");
         refused(2, "turn(1, 1) of a TURNED one", y -> bit(y.turn(1, 1)), 0);
         refused(2, "turn(0, 0) of another", y -> bit(y.turn(0, 0)), 0);
@@ -1143,6 +1204,10 @@ final class EdgeCalls extends Desk {
         due("one that is TURNED", z.pull(11, 0), true);
         due("it stays so", z.carbon(11, 4), 1);
 
+        changesOnly("pull", y -> bit(y.pull(0, 0)), "carbon(0, 3)", "has(4)", "has(9)", "officer(0, ", "officer(1, ");
+        changesOnly("pull of a TURNED one", y -> bit(y.pull(1, 0)), "carbon(1, 3)", "has(4)", "has(9)", "officer(1, ", "officer(2, ");
+        changesOnly("put IN", y -> bit(y.pull(2, 1)), "carbon(2, 3)", "has(4)", "has(9)", "officer(0, ", "officer(2, ");
+
         sentence("Promise 25", "; false, refused (2), when it is so already, there is none such, or for others.");
         refused(2, "pull(2, 0) of one not IN", y -> bit(y.pull(2, 0)), 0);
         refused(2, "pull(0, 1) of one IN", y -> bit(y.pull(0, 1)), 0);
@@ -1169,6 +1234,14 @@ final class EdgeCalls extends Desk {
         due("has(7)", x.has(7), 40);
         due("days(99)", x.days(99), 0);
         due("has(3)", x.has(3), 200);
+
+        changesOnly("days", y -> y.days(2), "feels(", "has(3)", "has(6)", "has(9)", "has(7)", "kept(");
+        changesOnly("days on which none is ACTED on", y -> {
+            y.put(0, 0, 0);
+            y.put(1, 0, 0);
+            y.put(2, 0, 0);
+            return y.days(2) + 1;
+        }, "feels(", "has(3)", "has(6)", "has(9)");
 
         sentence("Promise 26", "; NONE, refused (3), when it can't be (beyond DAY 999).");
         for (int bad : new int[] {0, -1, 101, HIGH, LOW}) {
@@ -1204,6 +1277,9 @@ final class EdgeCalls extends Desk {
         due("has(7)", x.has(7), 1);
         due("feels", x.feels(0, 0), 98);
         due("no slips", of(AB + A_TO_B).chance(100), 0);
+
+        changesOnly("chance", y -> y.chance(1) + 1, "feels(", "has(3)", "has(6)", "has(9)", "has(7)", "kept(", "carbon(0, 4)", "has(5)",
+            "officer(0, ", "officer(1, ");
 
         sentence("Promise 27", "; NONE, refused (3), when it can't be.");
         for (int bad : new int[] {0, -1, 101, HIGH, LOW}) {
@@ -1281,6 +1357,8 @@ final class EdgeCalls extends Desk {
         u.seed(2);
         due("chance by the seed 2", v.chance(40), u.chance(40));
 
+        changesOnly("undo of put", y -> bit(y.undo()), "feels(0, 1)", "has(6)", "has(9)");
+
         sentence("Promise 28", "; false, refused (4), when none can be.");
         refused(4, "undo of none", EdgeCalls::allUndone, y -> bit(y.undo()), 0);
         refused(4, "undo behind a MINISTRY", () -> of(OFFICE), y -> bit(y.undo()), 0);
@@ -1325,6 +1403,8 @@ final class EdgeCalls extends Desk {
         due("status(5)", x.status(5), 0);
         due("seed is no ACT", x.has(9), 4);
 
+        changesOnly("seed", y -> bit(y.seed(5)));
+
         sentence("Promise 29", "; false, refused (5), when it is below 0.");
         for (int bad : new int[] {-1, -2, LOW, LOW + 1}) {
             refused(5, "seed(" + bad + ")", y -> bit(y.seed(bad)), 0);
@@ -1353,11 +1433,7 @@ final class EdgeCalls extends Desk {
         due("a total of -1", ask(x, "total 0-number/2"), -1);
         due("a total far below 0", ask(x, "total 0-9999*9999"), -3000000);
         for (String question : new String[] {"first all", "last not all", "often all", "total 1", "most day", "least 0-1"}) {
-            CarbonMinistry with = busy();
-            CarbonMinistry without = busy();
-            ask(with, question);
-            ask(without, "total 1");
-            alike(NONE, "ask of " + question, with, without);
+            leavesAllButFault("ask of " + question, y -> ask(y, question));
         }
 
         sentence("Promise 30", "; NONE of first, last, when its TEST holds for none");
@@ -1382,6 +1458,12 @@ final class EdgeCalls extends Desk {
 
     private static void images() {
         sentence("Promise 31", "AN IMAGE is written: how many bytes.");
+        changesOnly("image", CarbonMinistry::image, "octet(");
+        CarbonMinistry once = busy();
+        CarbonMinistry twice = busy();
+        due("once", once.image(), 15);
+        due("twice", twice.image() + twice.image(), 30);
+        alike(NONE, "image", twice, once);
         due("of nothing", new CarbonMinistry().image(), 3);
         due("of officers alone", of(lettered(8)).image(), 3);
         due("of feelings alone", of("feeling j;").image(), 3);
@@ -1450,6 +1532,16 @@ final class EdgeCalls extends Desk {
         with.image();
         fresh.image();
         alike(NONE, "on", with, fresh);
+        // The seed, which no image tells, stays.
+        CarbonMinistry seeded = of(OFFICE);
+        CarbonMinistry same = of(OFFICE);
+        seeded.seed(2);
+        same.seed(2);
+        on(seeded, sealed(0, 0, 1, 0, 1, 0, 1, 0, 60, 0, 0, 0, 0, 30));
+        for (int k = 0; k < 20; k++) {
+            due("chance by the seed 2", seeded.chance(1), same.chance(1));
+            due("has(5)", seeded.has(5), same.has(5));
+        }
         due("of nothing", on(new CarbonMinistry(), 0, 0, 161), true);
         due("of officers alone", on(of(lettered(8)), sealed(3, 231)), true);
 

@@ -325,20 +325,20 @@ final class EdgeDays extends Desk {
                 due("has(4)", x.has(4), many == 1 ? 1 : many - 2);
             }
         }
-        // Without CARBONS a DAY draws once, whatever slip is: the fourth draw is the next one.
-        CarbonMinistry y = of("slip 100;");
-        due("chance", y.chance(3), 0);
+        // A DAY draws once at least, without CARBONS and whatever slip is: the fourth draw is the next one.
         Draws draws = new Draws(1);
         for (int k = 0; k < 3; k++) {
             draws.next(100);
         }
         int fourth = draws.next(100);
-        read(y, AB + A_TO_B + "slip " + fourth + ";");
-        due("the fourth draw is not below itself", y.chance(1), 0);
-        CarbonMinistry z = of("slip 0;");
-        z.chance(3);
-        read(z, AB + A_TO_B + "slip " + (fourth + 1) + ";");
-        due("the fourth draw is below one more", z.chance(1), 1);
+        for (String text : new String[] {"slip 100;", "slip 0;", "", AB + A_TO_B, AB + A_TO_B + "slip 0;", AB + "slip 50;"}) {
+            for (int slip = fourth - 1; slip <= fourth + 1; slip++) {
+                CarbonMinistry y = of(text);
+                due("chance of " + text, y.chance(3), 0);
+                read(y, AB + A_TO_B + "slip " + slip + ";");
+                due("the fourth draw behind " + text + ", below " + slip, y.chance(1), fourth < slip ? 1 : 0);
+            }
+        }
     }
 
     private static void kept() {
@@ -617,6 +617,14 @@ final class EdgeDays extends Desk {
         CarbonMinistry w = of(lettered(4) + "feeling j;fades feel;passes strength-1;felt j of b is 50;carbon c to b sheets 1;"
             + "carbon d to b sheets 1;carbon a to d sheets 1;carbon a to c sheets 1;");
         due("6 rather than 9", w.turning(0, 0, 48, 2), 6);
+        // Farther off, behind two CARBONS or three that lead between the same two.
+        for (int many = 1; many <= 3; many++) {
+            CarbonMinistry far = of(lettered(4) + "feeling j;felt j of d is 50;passes strength;" + times("carbon b to a sheets 1;", many)
+                + times("carbon b to c sheets 1;", many) + "carbon c to d sheets 1;");
+            due("one that is far off, one between", far.turning(0, 0, 50, 3), 1 << many | 1 << 2 * many);
+            due("not as soon", far.turning(0, 0, 50, 2), NONE);
+            due("twice as much by two", far.turning(0, 0, 99, 3), many == 1 ? NONE : 1 << many | 1 << 2 * many);
+        }
     }
 
     private static void stepsAndCuts() {
@@ -842,6 +850,19 @@ final class EdgeDays extends Desk {
         due("nothing tells: the first DAY", none.tells(0, 0), 1);
         due("the first OFFICER", none.tells(0, 1), 0);
         due("all are left", none.tells(0, 2), 792);
+        // Of like ones the first DAY, by whichever OFFICER: b is told on DAY 0 whose strength it was, a on DAY 1.
+        CarbonMinistry gated = of("officer a shape 1 press 0;officer b shape 0 press 0;officer c shape 9 press 0;"
+            + "officer d shape 9 press 0;feeling j;carbon c to a sheets 1;carbon d to a sheets 1;carbon c to b sheets 1;"
+            + "carbon d to b sheets 1;fades feel;passes (strength-1)*max(0,min(1,day+1-shape))*max(0,min(1,shape+1-day));");
+        discover(gated, 0, 0, 0, 0, 1, 0);
+        due("sources of c and d", gated.sources(0, NONE), 198);
+        due("the first DAY", gated.tells(0, 0), 1);
+        due("b", gated.tells(0, 1), 1);
+        due("two are left", gated.tells(0, 2), 2);
+        goTo(gated, 1);
+        due("the first DAY", gated.tells(0, 0), 1);
+        due("a", gated.tells(0, 1), 0);
+        due("two are left", gated.tells(0, 2), 2);
         // A later DAY only if it tells more.
         CarbonMinistry later = of(AB + "fades feel-1;");
         discover(later, 0, 1, 0);

@@ -490,6 +490,15 @@ final class EdgeText extends Desk {
             due("passes", x.passes(0, 0), 18);
             due("days", x.days(1), 1);
         }
+        // A NAME is the same one behind whichever blank it is asked.
+        for (String one : new String[] {" ", "\n", "\n ", " \n"}) {
+            CarbonMinistry x = of("officer" + one + "a shape 1 press 2;officer \nb shape 3 press 4;feeling" + one + "j;"
+                + "carbon a to\nb sheets 5;carbon\na to b sheets 6;felt j of" + one + "a is 60;felt\nj of b is 61;");
+            due("has(2)", x.has(2), 2);
+            due("has(6)", x.has(6), 121);
+        }
+        faulty(3, "officer\na shape 1 press 2;officer @a shape 1 press 2;");
+        faulty(3, "officer a shape 1 press 2;feeling\n@a;");
         // None at all beside signs.
         CarbonMinistry y = of("officer a shape 1 press 2;officer b shape 3 press 4;feeling j;carbon a to b sheets 5;"
             + "felt j of a is 60;passes min(strength-1,9)*(2)/1;fades feel;acts[feel>50 or not[all]]and[all];slip 7;");
