@@ -251,7 +251,7 @@ final class EdgeCalls extends Desk {
         CarbonMinistry x = new CarbonMinistry();
         for (int k = 0; k < 12; k++) {
             int n = k * 7 % 12;
-            read(x, AB + "passes feeling" + n);
+            due("a FAULT between", read(x, AB + A_TO_B + "passes 1;fades 2;acts all;slip 100;" + n), NONE);
             read(x, AB + A_TO_B + "felt j of a is 99;felt j of b is 64;passes strength*" + n + "/12;fades feel*" + n + "/13;acts feel>" + n + ";");
             due("passes of law " + n, x.passes(0, 0), 99 * n / 12);
             due("fades of law " + n, x.later(0, 0, 1), 99 * n / 13);

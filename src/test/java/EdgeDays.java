@@ -676,6 +676,32 @@ final class EdgeDays extends Desk {
         due("one way into c, one out of b", v.cutting(0, 3), 2);
         due("two out of c, and one to b", v.cutting(2, 3), 3);
         manyCuts();
+        // Offices in which a row found first must be left again, and another one with it.
+        allCuts("ad bd cb ad ba ac ce ae ce ea dc be");
+        allCuts("ag ef bd ed fa ca ge eb cb ec ae gb");
+        allCuts("ef db be ec ca db ad ab cb ed ba fa");
+        allCuts("bd ca ec ce cb ac dc bc ad eb de ae");
+        allCuts("da ed ab cb dc ec ca ec da ca ba bc");
+    }
+
+    /** Each CUT of an office whose CARBONS are told by the letters of their two OFFICERS. */
+    private static void allCuts(String carbons) {
+        StringBuilder text = new StringBuilder(lettered(8));
+        int[] from = new int[12];
+        int[] to = new int[12];
+        String[] each = carbons.split(" ");
+        for (int c = 0; c < 12; c++) {
+            from[c] = each[c].charAt(0) - 'a';
+            to[c] = each[c].charAt(1) - 'a';
+            text.append("carbon ").append(each[c].charAt(0)).append(" to ").append(each[c].charAt(1)).append(" sheets 1;");
+        }
+        CarbonMinistry x = of(text.toString());
+        for (int pair = 0; pair < 64; pair++) {
+            int one = pair / 8;
+            int other = pair % 8;
+            due("cutting(" + one + ", " + other + ") of " + carbons, x.cutting(one, other),
+                one == other ? NONE : cut(from, to, 0xfff, one, other));
+        }
     }
 
     /** Offices drawn, twelve CARBONS among six or eight: each CUT against all that can be pulled. */
