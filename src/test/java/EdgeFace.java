@@ -2,6 +2,7 @@ import java.lang.reflect.Field;
 import java.lang.reflect.Method;
 import java.lang.reflect.Modifier;
 import java.util.ArrayList;
+import java.util.Arrays;
 import java.util.List;
 
 /** The sentences ahead of the promises and behind them: what it is, the public face, the sum of it, what is not promised. */
@@ -158,27 +159,24 @@ final class EdgeFace extends Desk {
         due("its last byte", x.octet(14), 143);
     }
 
-    /** The lines that part the calls stand in the source, each ahead of its calls and behind those of the part ahead. */
+    /** The lines that part the calls: each call that is told there is one of the face, and told once. */
     private static void theParts() {
-        String source = fileText("src/main/java/CarbonMinistry.java").replaceAll("public (int|long|boolean) ", "public kind ");
         String[][] parts = {{"ahead.", "later", "settles", "strongest", "acted"}, {"carbons.", "turning", "steps", "cutting"},
             {"who felt it first.", "discover", "sources", "tells"},
             {"acts.", "put", "turn", "pull", "days", "chance", "undo", "seed"}, {"questions.", "ask"},
             {"images, refusals.", "image", "octet", "on", "status"}};
-        int last = source.indexOf("public kind kept(");
+        List<String> told = found(FACE, "public (int|long|boolean) \\w+\\([^)]*\\);");
+        int next = told.size() - 22;
         for (String[] part : parts) {
-            String calls = "`" + String.join("`, `", java.util.Arrays.asList(part).subList(1, part.length)) + "`";
+            String calls = "`" + String.join("`, `", Arrays.asList(part).subList(1, part.length)) + "`";
             sentence("Terms", "Ahead of the calls " + calls + " the interface says: ---- " + part[0]);
-            last = behind(last, source.indexOf("// ---- " + part[0].replace(".", "") + "\n"), "the line of " + part[0]);
             for (int k = 1; k < part.length; k++) {
-                last = behind(last, source.indexOf("public kind " + part[k] + "("), part[k]);
+                String signature = next < told.size() ? told.get(next) : "";
+                due(part[k] + " is the next call of the face", signature.replaceAll(SIGNATURE, "$3").equals(part[k]), true);
+                due(part[k] + " is a call of the class", isMethod(signature), true);
+                next++;
             }
         }
-    }
-
-    private static int behind(int last, int at, String name) {
-        due(name + " stands behind what is ahead of it", last >= 0 && at > last, true);
-        return at;
     }
 
     // ---- the names of the promises, and what is free
